@@ -74,8 +74,8 @@ public final class RootHouse {
             throw new IllegalStateException("there are 20 circuits");
         }
         reader.read(tape, length);
-        faultKind = reader.faultKind;
-        faultPlace = reader.faultPlace;
+        faultKind = reader.fault & 7;
+        faultPlace = reader.fault >> 3;
         if (faultKind != 0) {
             throw new IllegalArgumentException("the TAPE has a FAULT");
         }
@@ -141,7 +141,8 @@ public final class RootHouse {
             return NONE;
         }
         bank.startDraft();
-        return draftDerived(how, c, d) ? bank.keep(bank.widths[c] + (how == 2 ? 1 : 0)) : NONE;
+        boolean can = how == 6 ? cliffords.putShortest(bank, c) : draftDerived(how, c, d);
+        return can ? bank.keep(bank.widths[c] + (how == 2 ? 1 : 0)) : NONE;
     }
 
     private boolean draftDerived(int how, int c, int d) {
@@ -163,11 +164,9 @@ public final class RootHouse {
                 return true;
             case 4:
                 return bank.putMerged(c);
-            case 5:
+            default:
                 bank.putCancelled(c);
                 return true;
-            default:
-                return cliffords.putShortest(bank, c);
         }
     }
 
@@ -356,13 +355,7 @@ public final class RootHouse {
     }
 
     public boolean rewrite(int rule, int a, int b) {
-        switch (rule) {
-            case 1: return web.fuse(a, b);
-            case 2: return web.skip(a);
-            case 3: return web.complement(a);
-            case 4: return web.pivot(a, b);
-            default: return false;
-        }
+        return web.doRule(rule, a, b);
     }
 
     public int reduce() {
@@ -677,6 +670,8 @@ public final class RootHouse {
      */
     private static final class Reader {
         static final int DEEPEST = 8;
+        /** Stands in a prefix for - ; the CONTROLS are below it. */
+        static final int BACK = 1 << 16;
 
         final int[] ops = new int[MOST_OPS];
         final int[] routineOps = new int[4 * MOST_OPS];
@@ -696,11 +691,27 @@ public final class RootHouse {
         int asked;
         int routine;
         boolean ahead;
+        int prefix;
         int seen;
-        int faultKind;
-        int faultPlace;
+        /** 8 * its place + its kind, so that of two the lesser one is told. */
+        int fault;
 
         void read(char[] tape, int count) {
+            startOver(tape, count);
+            boolean whole = readWidth();
+            for (int i = 0; i < MOST_TAPE && whole && peek() != 0; i++) {
+                whole = readStatement(take());
+            }
+            if (whole && depth > 0) {
+                place = length;
+                broken();
+            }
+            if (fault == 0 && (size > MOST_OPS || Bank.hsIn(ops, 0, size) > MOST_HS)) {
+                fault = 5;
+            }
+        }
+
+        private void startOver(char[] tape, int count) {
             text = tape;
             length = count;
             next = 0;
@@ -709,34 +720,8 @@ public final class RootHouse {
             asked = 0;
             routine = NONE;
             ahead = false;
-            faultKind = 0;
-            faultPlace = 0;
+            fault = 0;
             Arrays.fill(routineWidths, 0);
-            if (readAll() && faultKind == 0 && (size > MOST_OPS || Bank.hsIn(ops, 0, size) > MOST_HS)) {
-                faultKind = 5;
-            }
-        }
-
-        private boolean readAll() {
-            char c = take();
-            if (c < '1' || c > '8') {
-                return broken();
-            }
-            width = c - '0';
-            frame = width;
-            if (take() != ':') {
-                return broken();
-            }
-            for (int i = 0; i <= MOST_TAPE; i++) {
-                c = take();
-                if (c == 0) {
-                    return depth == 0 || broken();
-                }
-                if (!readStatement(c)) {
-                    return false;
-                }
-            }
-            return true;
         }
 
         /** The next character that counts; 0 behind the last one. */
@@ -760,36 +745,51 @@ public final class RootHouse {
             return i < length ? text[i] : 0;
         }
 
+        /** With the character that was just taken it is no TEXT, whatever was found ahead of it. */
         private boolean broken() {
-            faultKind = 1;
-            faultPlace = place;
+            fault = 8 * place + 1;
             return false;
         }
 
         private void note(int kind, int where) {
-            boolean less = where < faultPlace || where == faultPlace && kind < faultKind;
-            if (faultKind == 0 || less) {
-                faultKind = kind;
-                faultPlace = where;
-            }
+            int found = 8 * where + kind;
+            fault = fault == 0 ? found : Math.min(fault, found);
         }
 
         private static boolean isDigit(char c) {
             return c >= '0' && c <= '9';
         }
 
-        private boolean readStatement(char c) {
-            if (c == ']') {
-                return closeBlock();
-            }
-            boolean plain = c == '?' || c == '!' || c == 'm' || c == 'r';
-            if (plain && routine != NONE) {
+        private boolean readWidth() {
+            char c = take();
+            if (c < '1' || c > '8') {
                 return broken();
             }
-            if (c == '*' || c == '?' || c == '!') {
-                return openBlock(c);
+            width = c - '0';
+            frame = width;
+            return take() == ':' || broken();
+        }
+
+        private boolean readStatement(char first) {
+            boolean noGate = first == '?' || first == '!' || first == 'm' || first == 'r';
+            if (noGate && routine != NONE) {
+                return broken();
             }
-            return plain ? readMeasured(c == 'm') : readGate(c);
+            if (first == ']') {
+                return closeBlock();
+            }
+            if (first == '*' || first == '?' || first == '!') {
+                return openBlock(first);
+            }
+            if (noGate) {
+                return readMeasured(first == 'm');
+            }
+            char c = readPrefix(first);
+            if (c == '@') {
+                return readRoutineOrUse();
+            }
+            int kind = c == 'w' ? W : "xyzhst".indexOf(c);
+            return kind >= 0 ? readTargets(kind) : broken();
         }
 
         private boolean openBlock(char sign) {
@@ -800,10 +800,8 @@ public final class RootHouse {
                 return broken();
             }
             push(sign == '*' ? c - '0' : 1);
-            if (sign == '?') {
-                asked |= 1 << c - '0';
-            } else if (sign == '!') {
-                asked |= 16 << c - '0';
+            if (sign != '*') {
+                asked |= (sign == '?' ? 1 : 16) << c - '0';
             }
             return true;
         }
@@ -832,15 +830,15 @@ public final class RootHouse {
         }
 
         private void repeat(int from, int times) {
-            int again = (size - from) * times;
-            if (size > MOST_OPS || from + again > MOST_OPS) {
+            int once = size - from;
+            if (size > MOST_OPS || from + once * times > MOST_OPS) {
                 size = MOST_OPS + 1;
                 return;
             }
-            for (int i = size; i < from + again; i++) {
-                ops[i] = ops[i - (size - from)];
+            for (int i = size; i < from + once * times; i++) {
+                ops[i] = ops[i - once];
             }
-            size = from + again;
+            size = from + once * times;
         }
 
         private void closeRoutine() {
@@ -870,7 +868,7 @@ public final class RootHouse {
             return true;
         }
 
-        /** Looks at a WIRE just taken; answers it as a set. */
+        /** Looks at a WIRE that was just taken; answers it as a set. */
         private int tellWire(char digit) {
             int wire = digit - '0';
             if (wire >= frame) {
@@ -882,32 +880,26 @@ public final class RootHouse {
             return 1 << wire;
         }
 
-        private boolean readGate(char first) {
+        /** Takes CONTROLS and - ; answers the character behind them, 0 where it can be none. */
+        private char readPrefix(char first) {
             char c = first;
-            int controls = 0;
-            boolean bare = true;
             seen = 0;
+            prefix = 0;
             for (int i = 0; i < MOST_TAPE && isDigit(c); i++) {
-                controls |= tellWire(c);
+                prefix |= tellWire(c);
                 if (take() != '>') {
-                    return broken();
+                    return 0;
                 }
                 c = take();
-                bare = false;
             }
-            boolean back = c == '-';
-            if (back) {
+            if (c == '-') {
+                prefix |= BACK;
                 c = take();
-                bare = false;
             }
-            if (c == '@') {
-                return readRoutineOrUse(bare, controls, back);
-            }
-            int kind = c == 'w' ? W : "xyzhst".indexOf(c);
-            return kind >= 0 ? readTargets(back ? Bank.inverseKind(kind) : kind, controls) : broken();
+            return c;
         }
 
-        private boolean readTargets(int kind, int controls) {
+        private boolean readTargets(int kind) {
             ahead = ahead || routine == NONE;
             char wire = take();
             if (!isDigit(wire)) {
@@ -925,11 +917,12 @@ public final class RootHouse {
             if (take() != ';') {
                 return broken();
             }
-            append(Bank.pack(kind, wire - '0', second - '0', controls));
+            int told = prefix >= BACK ? Bank.inverseKind(kind) : kind;
+            append(Bank.pack(told, wire - '0', second - '0', prefix));
             return true;
         }
 
-        private boolean readRoutineOrUse(boolean bare, int controls, boolean back) {
+        private boolean readRoutineOrUse() {
             int sign = place;
             int name = "abcd".indexOf(take());
             if (name < 0) {
@@ -940,10 +933,10 @@ public final class RootHouse {
                 return broken();
             }
             if (peek() != '[') {
-                return readUse(name, sign, digit) && layUse(name, controls, back);
+                return readUse(name, sign, digit) && layUse(name);
             }
             take();
-            if (!bare || routine != NONE || ahead || digit < '1' || digit > '4') {
+            if (prefix != 0 || routine != NONE || ahead || digit < '1' || digit > '4') {
                 return broken();
             }
             if (routineWidths[name] != 0) {
@@ -975,36 +968,35 @@ public final class RootHouse {
             return c == ';' && (want == 0 || count == want) || broken();
         }
 
-        private boolean layUse(int name, int controls, boolean back) {
+        private boolean layUse(int name) {
             int count = routineSizes[name];
-            if (faultKind != 0) {
+            if (fault != 0) {
                 return true;
             }
             if (count > MOST_OPS) {
                 size = MOST_OPS + 1;
                 return true;
             }
+            boolean back = prefix >= BACK;
             for (int i = 0; i < count; i++) {
                 int op = routineOps[name * MOST_OPS + (back ? count - 1 - i : i)];
-                append(renamed(back ? Bank.inverse(op) : op, controls));
+                append(renamed(back ? Bank.inverse(op) : op));
             }
             return true;
         }
 
-        private int renamed(int op, int controls) {
-            int set = controls;
+        private int renamed(int op) {
+            int controls = prefix;
             for (int i = 0; i < 4; i++) {
-                if ((Bank.controlsOf(op) >> i & 1) != 0) {
-                    set |= 1 << named[i];
-                }
+                controls |= (Bank.controlsOf(op) >> i & 1) << named[i];
             }
             int second = Bank.kindOf(op) == W ? named[Bank.secondOf(op) & 3] : 0;
-            return Bank.pack(Bank.kindOf(op), named[Bank.wireOf(op) & 3], second, set);
+            return Bank.pack(Bank.kindOf(op), named[Bank.wireOf(op) & 3], second, controls);
         }
 
         /** Behind a FAULT nothing is laid out: its WIRES may be none. */
         private void append(int op) {
-            if (faultKind != 0 || size > MOST_OPS) {
+            if (fault != 0 || size > MOST_OPS) {
                 return;
             }
             if (size < MOST_OPS) {
@@ -2232,7 +2224,7 @@ public final class RootHouse {
             askedFor = NONE;
         }
 
-        boolean fuse(int a, int b) {
+        private boolean fuse(int a, int b) {
             if (!isInner(a) || !isInner(b) || a >= b || edgeKind(a, b) != 1) {
                 return false;
             }
@@ -2249,7 +2241,7 @@ public final class RootHouse {
             return true;
         }
 
-        boolean skip(int a) {
+        private boolean skip(int a) {
             if (!isInner(a) || phases[a] != 0 || Long.bitCount(plain[a] | turned[a]) != 2) {
                 return false;
             }
@@ -2276,7 +2268,7 @@ public final class RootHouse {
             return (near & outer()) == 0;
         }
 
-        boolean complement(int a) {
+        private boolean complement(int a) {
             if (!isInner(a) || (phases[a] & 3) != 2 || plain[a] != 0 || !areFree(turned[a])) {
                 return false;
             }
@@ -2300,7 +2292,7 @@ public final class RootHouse {
             }
         }
 
-        boolean pivot(int a, int b) {
+        private boolean pivot(int a, int b) {
             if (!isInner(a) || !isInner(b) || a >= b || edgeKind(a, b) != 2) {
                 return false;
             }
@@ -2326,45 +2318,25 @@ public final class RootHouse {
             return true;
         }
 
+        boolean doRule(int rule, int a, int b) {
+            switch (rule) {
+                case 1: return fuse(a, b);
+                case 2: return skip(a);
+                case 3: return complement(a);
+                case 4: return pivot(a, b);
+                default: return false;
+            }
+        }
+
         /** Each RULE takes away a SPIDER, so this is true at most as often as there are some. */
         boolean doFirstRule() {
-            return fuseFirst() || skipFirst() || complementFirst() || pivotFirst();
-        }
-
-        private boolean fuseFirst() {
-            for (int a = 2 * wires; a < made; a++) {
-                for (int b = a + 1; b < made; b++) {
-                    if (edgeKind(a, b) == 1 && fuse(a, b)) {
-                        return true;
-                    }
-                }
-            }
-            return false;
-        }
-
-        private boolean skipFirst() {
-            for (int a = 2 * wires; a < made; a++) {
-                if (skip(a)) {
-                    return true;
-                }
-            }
-            return false;
-        }
-
-        private boolean complementFirst() {
-            for (int a = 2 * wires; a < made; a++) {
-                if (complement(a)) {
-                    return true;
-                }
-            }
-            return false;
-        }
-
-        private boolean pivotFirst() {
-            for (int a = 2 * wires; a < made; a++) {
-                for (int b = a + 1; b < made; b++) {
-                    if (edgeKind(a, b) == 2 && pivot(a, b)) {
-                        return true;
+            for (int rule = 1; rule <= 4; rule++) {
+                for (int a = 2 * wires; a < made; a++) {
+                    boolean ofTwo = rule == 1 || rule == 4;
+                    for (int b = ofTwo ? a + 1 : made - 1; b < made; b++) {
+                        if (doRule(rule, a, b)) {
+                            return true;
+                        }
                     }
                 }
             }
@@ -2419,7 +2391,6 @@ public final class RootHouse {
         final int[] reducers = new int[8];
         final int[] readVectors = new int[8];
         final int[] readPlaces = new int[8];
-        final int[] lowVectors = new int[256];
         final int[] syndromes = new int[512];
         final int[] rests = new int[512];
         final int[] corrections = new int[256];
@@ -2500,7 +2471,6 @@ public final class RootHouse {
             return (digit == 1 || digit == 2 ? 1 : 0) | (digit >= 2 ? 256 : 0);
         }
 
-        /** Reducers are kept apart from those of the old CODE by the caller's order: they are made again there. */
         private void checkRows() {
             for (int i = 0; i < readRows && faultKind == 0; i++) {
                 for (int j = 0; j < i; j++) {
@@ -2910,6 +2880,7 @@ public final class RootHouse {
         static final int IDENTITY = 0xFAC688;
         static final int NEAR = 4;
         static final int SLOTS = 8192;
+        static final int TOO_DEAR = 1 << 30;
 
         final int[] legs = new int[9];
         final int[] near = new int[6];
@@ -3134,24 +3105,18 @@ public final class RootHouse {
          */
         void putLeast(Bank bank, int inverse) {
             learn();
+            int ahead = 0;
+            while (ahead <= NEAR && !tryGates(inverse, ahead, 0)) {
+                ahead++;
+            }
             int rest = inverse;
-            int tried = 0;
-            while (tried < 8 && distances[slotOf(rest)] == 0) {
-                tried++;
-                if (tryGates(inverse, tried, 0)) {
-                    rest = inverse;
-                    for (int i = 0; i < tried; i++) {
-                        rest = gated(rest, path[i]);
-                    }
-                    break;
-                }
-            }
-            for (int i = 0; i < tried; i++) {
+            for (int i = 0; i < ahead; i++) {
                 putGate(bank, path[i]);
+                rest = gated(rest, path[i]);
             }
-            while (distances[slotOf(rest)] > 1) {
+            for (int left = distances[slotOf(rest)] - 1; left > 0; left--) {
                 int gate = 0;
-                while (gate < 11 && distances[slotOf(gated(rest, gate))] != distances[slotOf(rest)] - 1) {
+                while (gate < 11 && distances[slotOf(gated(rest, gate))] != left) {
                     gate++;
                 }
                 putGate(bank, gate);
@@ -3164,7 +3129,7 @@ public final class RootHouse {
         }
 
         private boolean tryGates(int rest, int left, int depth) {
-            if (left == 0 || depth >= 8) {
+            if (left == 0 || depth > NEAR) {
                 return distances[slotOf(rest)] != 0;
             }
             for (int gate = 0; gate < 12; gate++) {
@@ -3284,7 +3249,7 @@ public final class RootHouse {
 
         /** One side has the first TENSOR, so each split comes once. */
         private int leastSplit(int set, int rest) {
-            int least = Integer.MAX_VALUE;
+            int least = TOO_DEAR;
             for (int side = rest; side > 0; side = side - 1 & rest) {
                 int other = set ^ side;
                 int together = 1 << Integer.bitCount(subsetLegs[side] | subsetLegs[other]);
