@@ -1609,7 +1609,9 @@ public final class RootHouse {
         }
 
         void wipeOne(int i) {
-            Arrays.fill(parts, 4 * i, 4 * i + 4, 0);
+            for (int part = 0; part < 4; part++) {
+                parts[4 * i + part] = 0;
+            }
         }
 
         long weightPart(int mask, int value, int part) {
@@ -2929,15 +2931,12 @@ public final class RootHouse {
          */
         int findWay(Bank bank, int c) {
             int width = bank.widths[c];
-            prepareWays(bank.sizes[c], width);
-            int places = 0;
-            for (int i = 0; i < width; i++) {
-                places |= i << 3 * i;
-            }
+            int places = placesAtFirst(width);
             int done = advance(bank, c, places, 0);
             if (done == bank.sizes[c]) {
                 return 0;
             }
+            prepareWays(bank.sizes[c], width);
             furthest[keyOf(places, width)] = done;
             ways[0] = packWay(places, done, 0, 0);
             int tail = 1;
@@ -2976,7 +2975,9 @@ public final class RootHouse {
             for (int i = 0; i < width; i++) {
                 keys *= 6;
             }
-            Arrays.fill(furthest, 0, Math.min(keys, furthest.length), NONE);
+            for (int i = 0; i < keys && i < furthest.length; i++) {
+                furthest[i] = NONE;
+            }
         }
 
         private static long packWay(int places, int done, int link, int before) {
@@ -3002,6 +3003,14 @@ public final class RootHouse {
                 path[length - 1 - i] = kept;
             }
             return length;
+        }
+
+        private static int placesAtFirst(int width) {
+            int places = 0;
+            for (int i = 0; i < width; i++) {
+                places |= i << 3 * i;
+            }
+            return places;
         }
 
         private static int placeOf(int places, int wire) {
@@ -3048,10 +3057,7 @@ public final class RootHouse {
 
         void putWay(Bank bank, int c, int swaps) {
             int width = bank.widths[c];
-            int places = 0;
-            for (int i = 0; i < width; i++) {
-                places |= i << 3 * i;
-            }
+            int places = placesAtFirst(width);
             int done = 0;
             for (int i = 0; i <= swaps; i++) {
                 int further = advance(bank, c, places, done);
