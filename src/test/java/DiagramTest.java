@@ -33,6 +33,9 @@ public final class DiagramTest {
         h = drawn("2:h0;w01;", 4);
         CHECK.same("it crosses over, TURNED", h.spider(0, 103), 2);
         CHECK.same("and back", h.spider(1, 102), 1);
+        h = drawn("2:h0;h1;w01;", 4);
+        CHECK.same("both are TURNED", h.spider(0, 103), 2);
+        CHECK.same("both are TURNED", h.spider(1, 102), 2);
         RootHouse g = drawn("1:x0;y0;z0;s0;t0;-s0;-t0;", 10);
         CHECK.row("PHASES", i -> g.spider(i, 0), 0, 0, 0, 4, 4, 4, 4, 2, 1, 6, 7, -1);
         CHECK.row("EDGES", i -> g.spider(i, 1), 0, 1, 1, 2, 2, 2, 2, 2, 2, 2, 2, -1);
@@ -56,6 +59,10 @@ public final class DiagramTest {
         }
         drawn("1:*9[*6[t0;]]*4[t0;]", 60);
         drawn("1:*9[*6[t0;]]*5[t0;]", -1);
+        drawn("2:*4[*7[0>z1;]]", 60);
+        drawn("2:*4[*7[0>x1;]]t0;", -1);
+        drawn("1:*5[*5[y0;]]*4[y0;]", 60);
+        drawn("1:*5[*6[y0;]]", -1);
         RootHouse h = drawn("1:t0;", 3);
         CHECK.same("no such circuit", h.diagram(1), -1);
         CHECK.same("no such circuit", h.diagram(-1), -1);
@@ -129,6 +136,9 @@ public final class DiagramTest {
         CHECK.same("an EDGE came", h.spider(2, 105), 2);
         RootHouse g = drawn("1:h0;z0;h0;z0;h0;t0;", 5);
         CHECK.no("an INPUT", g.rewrite(4, 2, 3));
+        RootHouse f = drawn("1:h0;z0;h0;t0;", 4);
+        CHECK.no("the INPUT itself", f.rewrite(4, 0, 2));
+        CHECK.no("the same", f.rewrite(4, 2, 2));
     }
 
     private static void together() {

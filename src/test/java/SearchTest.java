@@ -98,6 +98,8 @@ public final class SearchTest {
         least(permutation(0, 1, 2, 3, 4, 5, 7, 6), "3:1>2>x0;");
         least(permutation(7, 6, 5, 4, 3, 2, 1, 0), "3:x0;x1;x2;");
         least(permutation(0, 2, 1, 3, 4, 6, 5, 7), "3:1>x0;0>x1;1>x0;");
+        least(permutation(2, 0, 6, 1, 4, 7, 3, 5), "3:x0;1>x0;2>x0;1>2>x0;0>x1;1>x0;0>1>x2;1>2>x0;");
+        least(permutation(5, 1, 2, 4, 6, 3, 7, 0), "3:x0;x1;1>2>x0;0>x1;1>x2;1>2>x0;0>2>x1;x2;");
         RootHouse h = new RootHouse();
         CHECK.same("0 is none", h.least(0), -1);
         CHECK.same("bit 24", h.least(permutation(0, 1, 2, 3, 4, 5, 6, 7) | 1 << 24), -1);

@@ -87,6 +87,10 @@ public final class TextTest {
         fault("1:" + "*1[".repeat(9) + "]".repeat(9), 1, 28);
         fault("1:@a1[" + "*1[".repeat(7) + "]".repeat(8), 0, 0);
         fault("1:@a1[" + "*1[".repeat(8) + "]".repeat(9), 1, 29);
+        fault("2:m00;@a1[]", 1, 9);
+        fault("2:r0;@a1[]", 1, 8);
+        fault("2:?0[]@a1[]", 1, 9);
+        fault("2:@a1[]@a0;@b1[]", 1, 14);
         fault("1:?0[!0[" + "*1[".repeat(6) + "]".repeat(8), 0, 0);
     }
 
