@@ -124,6 +124,13 @@ public final class DiagramTest {
         CHECK.row("its neighbours", i -> f.spider(i, 0), 2, 3, -1, 3);
         RootHouse e = drawn("1:t0;s0;h0;t0;", 5);
         CHECK.no("a PLAIN EDGE", e.rewrite(3, 3, 0));
+        RootHouse d = drawn("2:t1;h1;0>z1;s1;0>z1;h1;t1;", 11);
+        d.rewrite(1, 6, 7);
+        d.rewrite(1, 6, 9);
+        CHECK.same("four EDGES", d.spider(6, 1), 4);
+        CHECK.no("a PLAIN EDGE among its neighbours", d.rewrite(3, 6, 0));
+        CHECK.yes("it goes", d.rewrite(1, 5, 8));
+        CHECK.yes("then it can be", d.rewrite(3, 6, 0));
     }
 
     private static void pivoted() {
@@ -139,6 +146,12 @@ public final class DiagramTest {
         RootHouse f = drawn("1:h0;z0;h0;t0;", 4);
         CHECK.no("the INPUT itself", f.rewrite(4, 0, 2));
         CHECK.no("the same", f.rewrite(4, 2, 2));
+        RootHouse e = drawn("2:t1;h1;z1;h1;0>z1;0>z1;h1;t1;", 11);
+        e.rewrite(1, 7, 9);
+        CHECK.no("a PLAIN EDGE among its neighbours", e.rewrite(4, 5, 7));
+        CHECK.yes("it goes", e.rewrite(1, 6, 8));
+        CHECK.yes("then it can be", e.rewrite(4, 5, 7));
+        CHECK.row("PHASES", i -> e.spider(i, 0), 4, 1, -1, 0, -1, -1, -1, 5);
     }
 
     private static void together() {

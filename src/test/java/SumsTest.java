@@ -181,5 +181,23 @@ public final class SumsTest {
         CHECK.yes("x and others", h.commutes());
         h.term(0, 1, 7, 0);
         CHECK.no("one of three", h.commutes());
+        for (int i = 0; i < 256; i++) {
+            pair(i & 3, i >> 2 & 3, i >> 4 & 3, i >> 6);
+        }
+    }
+
+    /** Two PAULIS commute if they differ, both being some, on an even number of WIRES. */
+    private static void pair(int x1, int z1, int x2, int z2) {
+        RootHouse h = new RootHouse();
+        h.term(x1 << 6, z1 << 6, 1, 0);
+        h.sum(2);
+        h.term(x2 << 6, z2 << 6, 1, 0);
+        int differ = 0;
+        for (int i = 0; i < 2; i++) {
+            int one = (x1 >> i & 1) + 2 * (z1 >> i & 1);
+            int two = (x2 >> i & 1) + 2 * (z2 >> i & 1);
+            differ += one != 0 && two != 0 && one != two ? 1 : 0;
+        }
+        CHECK.same(x1 + " " + z1 + " and " + x2 + " " + z2, h.commutes() ? 0 : 1, differ % 2);
     }
 }

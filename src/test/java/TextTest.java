@@ -118,6 +118,8 @@ public final class TextTest {
         fault("2:h5;@a0;", 2, 3);
         fault("2:@a5;", 4, 2);
         fault("2:  h 5 ;", 2, 6);
+        fault("2:@a0;]", 1, 6);
+        fault("2:@a1[x1;]@a2;h", 1, 15);
         fault("8:@a4[]@a0123;h7;", 0, 0);
     }
 
