@@ -142,6 +142,27 @@ public final class DensityTest {
         CHECK.yes("h", h.mix(0, 0));
         CHECK.yes("a SPOIL", h.spoil(0, 1, 1));
         CHECK.row("PURITY", h::purity, 0, 1, 0, 0);
+        justFifty();
+    }
+
+    /** Gates leave the PURITY as it is, whatever they make of k. */
+    private static void justFifty() {
+        RootHouse h = new RootHouse();
+        Check.circuit(h, "1:h0;t0;");
+        h.density(1, 0);
+        for (int i = 0; i < 4; i++) {
+            h.spoil(0, 0, 1);
+        }
+        long[] before = {h.purity(0), h.purity(1), h.purity(2)};
+        for (int i = 0; i < 36; i++) {
+            if (i == 34) {
+                CHECK.same("k", Math.max(h.entry(0, 0, 4), h.entry(0, 1, 4)), 50);
+                CHECK.row("PURITY", h::purity, 0, before);
+            }
+            h.mix(0, i % 2);
+        }
+        CHECK.same("k", Math.max(h.entry(0, 0, 4), h.entry(0, 1, 4)), 51);
+        CHECK.fails("a k above 50", ArithmeticException.class, () -> h.purity(0));
     }
 
     /** Without m, r and SPOILS D(i, j) is the STATE at i times its conjugate at j. */
