@@ -635,7 +635,7 @@ public final class RootHouse {
             return NONE;
         }
         int count = search.findKin(n, graph);
-        return what == 0 ? count : what == 1 ? search.leastKin(count) : search.fewestPairs(count);
+        return what == 0 ? count : what == 1 ? search.leastKin() : search.fewestPairs();
     }
 
     public boolean tensor(int i, int legs) {
@@ -2596,22 +2596,28 @@ public final class RootHouse {
 
     /** What the group of h and s tells: THE FORM of one WIRE, and the SHORTEST circuits of two. */
     private static final class Cliffords {
-        static final int OF_TWO = 11520;
-        static final int SLOTS = 32768;
-        static final int[] STEPS = {3, 19, 4, 20, 1042};
+        /** How many there are of two WIRES, signs apart; each comes with 16 rows of signs. */
+        static final int OF_TWO = 720;
+        static final int FURTHEST = 14;
+        /** All bits of a key but those of the signs. */
+        static final int UNSIGNED = 0x7BDEF;
+        /** h 0, h 1, s 0, s 1, z on 1 with the CONTROL 0, then the inverses of s 0, s 1. */
+        static final int[] STEPS = {3, 19, 4, 20, 1042, 6, 22};
+        static final int[] BACK_STEPS = {0, 1, 5, 6, 4};
 
         final Signs four = new Signs(4);
-        final int[] stepped = new int[5 * 32];
+        final int[] stepped = new int[7 * 32];
+        /** By rank: what it makes of x 0, z 0, x 1, z 1, five bits each (two x's, two z's, a sign, here 0). */
+        final int[] keys = new int[OF_TWO];
+        /** By rank, four bits for each row of signs: 1 more than how many OPS lead to no gate; 0: not known yet. */
+        final long[] distances = new long[OF_TWO];
         final int[] path = new int[64];
         final int[] syllables = new int[MOST_OPS + 1];
         final char[] letters = new char[3 * MOST_OPS + 32];
         final int[] wordKeys = new int[24];
         final int[] wordFrom = new int[24];
-        int[] keys;
-        int[] from;
-        int[] slots;
-        int head;
-        int tail;
+        /** Up to here all distances are known. */
+        int known = NONE;
         int words = 0;
         int syllableCount;
         int imageOfX;
@@ -2619,29 +2625,34 @@ public final class RootHouse {
         int letterCount = NONE;
         int tCount = 0;
 
-        /** False if c has not two WIRES, or OPS that can't be. */
+        /**
+         * False if c has not two WIRES, or OPS that can't be. The OPS that are looked for take the inverse
+         * of c to no gate: so the first of them can be told first.
+         */
         boolean putShortest(Bank bank, int c) {
             if (bank.widths[c] != 2) {
                 return false;
             }
-            prepare();
             startFour();
-            for (int i = 0; i < bank.sizes[c]; i++) {
+            for (int i = bank.sizes[c] - 1; i >= 0; i--) {
                 int op = bank.opAt(c, i);
                 if (!Bank.isClifford(op)) {
                     return false;
                 }
-                four.turnByOp(op);
+                four.turnByOp(Bank.inverse(op));
             }
-            int node = find(keyOfFour());
-            int length = 0;
-            while (node > 0 && length < path.length) {
-                path[length] = from[node] % 5;
-                node = from[node] / 5;
-                length++;
+            int key = keyOfFour();
+            prepare();
+            for (int distance = known; distance < FURTHEST && distanceOf(key) == 0; distance++) {
+                spreadFrom(distance);
             }
-            for (int i = length - 1; i >= 0; i--) {
-                bank.put(STEPS[path[i]]);
+            for (int left = distanceOf(key) - 1; left > 0; left--) {
+                int step = 0;
+                while (step < 4 && distanceOf(stepFrom(key, step)) != left) {
+                    step++;
+                }
+                bank.put(STEPS[step]);
+                key = stepFrom(key, step);
             }
             return true;
         }
@@ -2662,36 +2673,19 @@ public final class RootHouse {
         }
 
         private void prepare() {
-            if (keys != null) {
+            if (known != NONE) {
                 return;
             }
-            keys = new int[OF_TWO];
-            from = new int[OF_TWO];
-            slots = new int[SLOTS];
-            Signs one = new Signs(1);
             for (int i = 0; i < stepped.length; i++) {
-                one.setRow(0, i & 3, i >> 2 & 3);
-                one.turnByOp(STEPS[i >> 5]);
-                stepped[i] = one.xs[0] | one.zs[0] << 2 | (one.signs[0] ^ i >> 4 & 1) << 4;
+                four.setRow(0, i & 3, i >> 2 & 3);
+                four.turnByOp(STEPS[i >> 5]);
+                stepped[i] = four.xs[0] | four.zs[0] << 2 | (four.signs[0] ^ i >> 4 & 1) << 4;
             }
             startFour();
-            keys[0] = keyOfFour();
-            head = 0;
-            tail = 1;
-            slots[slotOf(keys[0])] = 1;
-        }
-
-        /** Breadth first, by steps in their order: so each is reached first by its first shortest row. */
-        private int find(int key) {
-            int found = slots[slotOf(key)];
-            while (found == 0 && head < tail && head < OF_TWO) {
-                for (int step = 0; step < 5; step++) {
-                    reach(stepFrom(keys[head], step), head * 5 + step);
-                }
-                head++;
-                found = slots[slotOf(key)];
-            }
-            return found - 1;
+            int key = keyOfFour();
+            keys[rankOf(key)] = key;
+            distances[rankOf(key)] = 1;
+            known = 0;
         }
 
         private int stepFrom(int key, int step) {
@@ -2700,23 +2694,63 @@ public final class RootHouse {
             return low | stepped[table | key >> 10 & 31] << 10 | stepped[table | key >> 15 & 31] << 15;
         }
 
-        private void reach(int key, int by) {
-            int slot = slotOf(key);
-            if (slots[slot] == 0 && tail < OF_TWO) {
-                keys[tail] = key;
-                from[tail] = by;
-                tail++;
-                slots[slot] = tail;
-            }
+        private static int signsOf(int key) {
+            return key >> 4 & 1 | key >> 8 & 2 | key >> 12 & 4 | key >> 16 & 8;
         }
 
-        /** The slot of a key, or the free one where it would be. */
-        private int slotOf(int key) {
-            int slot = key * 0x9E3779B1 >>> 17;
-            for (int i = 0; i < SLOTS && slots[slot] != 0 && keys[slots[slot] - 1] != key; i++) {
-                slot = slot + 1 & SLOTS - 1;
+        private int distanceOf(int key) {
+            return (int) (distances[rankOf(key)] >>> 4 * signsOf(key)) & 15;
+        }
+
+        /**
+         * Of a key, signs apart, 0 .. 719: x 0 becomes one of 15, z 0 one of the 8 that do not commute with
+         * that one (three bits tell it, the fourth comes of them), x 1 and z 1 two of the 3 that commute with both.
+         */
+        private static int rankOf(int key) {
+            int first = key & 15;
+            int second = key >> 5 & 15;
+            int third = key >> 10 & 15;
+            int fourth = key >> 15 & 15;
+            int last = third ^ fourth;
+            int hidden = Bank.lowest(first >> 2 | (first & 3) << 2);
+            int shown = second >> hidden + 1 << hidden | second & (1 << hidden) - 1;
+            int order = 2 * ((third > fourth ? 1 : 0) + (third > last ? 1 : 0)) + (fourth > last ? 1 : 0);
+            int rank = ((first - 1) * 8 + shown) * 6 + order;
+            return Math.max(0, Math.min(rank, OF_TWO - 1));
+        }
+
+        private void spreadFrom(int distance) {
+            for (int rank = 0; rank < OF_TWO; rank++) {
+                int set = signsAt(rank, distance);
+                for (int i = 0; i < 5 && set != 0; i++) {
+                    spreadTo(stepFrom(keys[rank], BACK_STEPS[i]), set, distance + 1);
+                }
             }
-            return slot;
+            known = distance + 1;
+        }
+
+        /** Which rows of signs are at a distance, as a set. */
+        private int signsAt(int rank, int distance) {
+            int set = 0;
+            long left = distances[rank];
+            for (int signs = 0; signs < 16 && left != 0; signs++) {
+                set |= (left & 15) == distance + 1 ? 1 << signs : 0;
+                left >>>= 4;
+            }
+            return set;
+        }
+
+        /** The signs of the key are those that the step itself turns. */
+        private void spreadTo(int key, int set, int distance) {
+            int rank = rankOf(key);
+            int turned = signsOf(key);
+            keys[rank] = key & UNSIGNED;
+            for (int signs = 0; signs < 16; signs++) {
+                int at = 4 * (signs ^ turned);
+                if ((set >> signs & 1) != 0 && (distances[rank] >>> at & 15) == 0) {
+                    distances[rank] |= distance + 1L << at;
+                }
+            }
         }
 
         /**
@@ -2877,28 +2911,36 @@ public final class RootHouse {
         static final int[] LOW_END = {0, 0, 0, 0, 0, 1, 1, 1, 1, 2, 2, 2, 3, 3, 4};
         static final int[] HIGH_END = {1, 2, 3, 4, 5, 2, 3, 4, 5, 3, 4, 5, 4, 5, 5};
         static final int ARRANGEMENTS = 720;
+        /** Longs that hold two bits for each arrangement. */
+        static final int LAYER = 23;
+        static final int NO_WAY = 3;
+        static final int NOT_KNOWN = 1 << 30;
         static final int[] CONTROLS = {0, 2, 4, 6, 0, 1, 4, 5, 0, 1, 2, 3};
         static final int EVERY_THIRD = 0x249249;
         static final int IDENTITY = 0xFAC688;
         static final int NEAR = 4;
         static final int SLOTS = 8192;
-        static final int TOO_DEAR = 1 << 30;
+        static final int GRAPH_WORDS = 512;
 
         final int[] legs = new int[9];
         final int[] near = new int[6];
         final int[] path = new int[MOST_OPS + 1];
+        /** By rank: at which place each WIRE is, three bits each. */
+        final int[] arrangements = new int[ARRANGEMENTS];
+        /** By rank, three each: the ranks behind the SWAPS of five LINKS, twelve bits each (its own: no LINK). */
+        final long[] neighbours = new long[3 * ARRANGEMENTS];
+        /** By rank: how many SWAPS are needed from there on. */
+        final int[] needs = new int[ARRANGEMENTS];
+        /** For each OP what it needs with those behind it, modulo 3, or NO_WAY: neighbours differ by 1 at most. */
+        final long[] layers = new long[LAYER * MOST_OPS];
+        /** Permutations that are NEAR the identity, and above them 1 more than their distance (0: it is free). */
+        final int[] slots = new int[SLOTS];
+        final long[] seen = new long[GRAPH_WORDS];
+        final long[] fresh = new long[GRAPH_WORDS];
+        final int[] subsetLegs = new int[512];
+        final int[] subsetCosts = new int[512];
         int links = 0;
         int swapsTold = 0;
-        int[] furthest;
-        long[] ways;
-        int[] permutations;
-        int[] slots;
-        int[] distances;
-        int known = 0;
-        int[] kin;
-        int[] seen;
-        int[] subsetLegs;
-        int[] subsetCosts;
 
         void setLink(int a, int b, boolean is) {
             int low = Math.min(a, b);
@@ -2925,84 +2967,179 @@ public final class RootHouse {
         }
 
         /**
-         * The number of SWAPS of the least WAY (their LINKS are in path then), NONE without any.
-         * Breadth first, LINKS in their order; an arrangement is left out if it was there before with as
-         * many OPS done, for what comes of it now is no shorter and no earlier in order.
+         * The number of SWAPS of the least WAY (their LINKS are in path then), NONE without any, or if it
+         * would have too many OPS. What is needed is worked out from the last OP to the first.
          */
         int findWay(Bank bank, int c) {
             int width = bank.widths[c];
+            int size = bank.sizes[c];
             int places = placesAtFirst(width);
             int done = advance(bank, c, places, 0);
-            if (done == bank.sizes[c]) {
+            if (done == size) {
                 return 0;
             }
-            prepareWays(bank.sizes[c], width);
-            furthest[keyOf(places, width)] = done;
-            ways[0] = packWay(places, done, 0, 0);
-            int tail = 1;
-            for (int head = 0; head < tail && head < ways.length; head++) {
-                for (int i = 0; i < 15; i++) {
-                    if ((links >> i & 1) == 0) {
-                        continue;
-                    }
-                    int moved = swapped((int) (ways[head] & 0x3FFFF), width, LOW_END[i], HIGH_END[i]);
-                    int further = advance(bank, c, moved, (int) (ways[head] >> 18) & 511);
-                    if (further == bank.sizes[c]) {
-                        return tracePath(head, i);
-                    }
-                    int key = keyOf(moved, width);
-                    if (further > furthest[key] && tail < ways.length) {
-                        furthest[key] = further;
-                        ways[tail] = packWay(moved, further, i, head);
-                        tail++;
+            int count = mapChip(width);
+            int least = 0;
+            for (int i = size - 1; i >= done && least <= MOST_OPS - size; i--) {
+                int wires = Bank.wiresOf(bank.opAt(c, i));
+                if (Integer.bitCount(wires) == 2) {
+                    least = addLayer(wires, count);
+                    keepLayer(i, count);
+                }
+            }
+            int swaps = needs[rankOf(places, width)];
+            if (least > MOST_OPS - size || swaps > MOST_OPS - size) {
+                return NONE;
+            }
+            tracePath(bank, c, swaps, done);
+            return swaps;
+        }
+
+        /** How many arrangements there are; nothing is needed of any of them yet. */
+        private int mapChip(int width) {
+            int count = 1;
+            for (int i = 0; i < width; i++) {
+                count *= 6 - i;
+            }
+            for (int rank = 0; rank < count; rank++) {
+                arrangements[rank] = placesOf(rank, width, count);
+                needs[rank] = 0;
+            }
+            for (int rank = 0; rank < count; rank++) {
+                for (int word = 0; word < 3; word++) {
+                    neighbours[3 * rank + word] = packNeighbours(rank, width, 5 * word);
+                }
+            }
+            return count;
+        }
+
+        private long packNeighbours(int rank, int width, int from) {
+            long packed = 0;
+            for (int i = 0; i < 5; i++) {
+                int link = from + i;
+                boolean is = (links >> link & 1) != 0;
+                int to = is ? rankOf(swapped(arrangements[rank], width, LOW_END[link], HIGH_END[link]), width) : rank;
+                packed |= (long) to << 12 * i;
+            }
+            return packed;
+        }
+
+        /** Each WIRE's place is counted among those that the WIRES below it leave. */
+        private static int rankOf(int places, int width) {
+            int rank = 0;
+            int used = 0;
+            for (int i = 0; i < width; i++) {
+                int place = placeOf(places, i);
+                rank = rank * (6 - i) + place - Integer.bitCount(used & (1 << place) - 1);
+                used |= 1 << place;
+            }
+            return rank;
+        }
+
+        private static int placesOf(int rank, int width, int count) {
+            int places = 0;
+            int free = 63;
+            int left = rank;
+            int each = count;
+            for (int i = 0; i < width; i++) {
+                each /= 6 - i;
+                int rest = free;
+                for (int skipped = left / each; skipped > 0; skipped--) {
+                    rest &= rest - 1;
+                }
+                left %= each;
+                places |= Bank.lowest(rest) << 3 * i;
+                free &= ~(rest & -rest);
+            }
+            return places;
+        }
+
+        /**
+         * One OP more ahead of the others: where it can be done nothing more is needed, all else is one SWAP
+         * further than its nearest neighbour. The least need of all; NOT_KNOWN if it can't be done at all.
+         */
+        private int addLayer(int wires, int count) {
+            int least = NOT_KNOWN;
+            int most = NONE;
+            int unknown = 0;
+            for (int rank = 0; rank < count; rank++) {
+                if (!canBeDone(wires, arrangements[rank])) {
+                    needs[rank] = NOT_KNOWN;
+                    unknown++;
+                } else if (needs[rank] != NOT_KNOWN) {
+                    least = Math.min(least, needs[rank]);
+                    most = Math.max(most, needs[rank]);
+                }
+            }
+            for (int need = least; need <= most && unknown > 0; need++) {
+                int found = spreadNeed(need, count);
+                unknown -= found;
+                most = found > 0 ? Math.max(most, need + 1) : most;
+            }
+            return least;
+        }
+
+        /** How many arrangements are found that need one SWAP more than need. */
+        private int spreadNeed(int need, int count) {
+            int found = 0;
+            for (int rank = 0; rank < count; rank++) {
+                if (needs[rank] != need) {
+                    continue;
+                }
+                for (int i = 0; i < 3; i++) {
+                    long packed = neighbours[3 * rank + i];
+                    for (int j = 0; j < 5; j++) {
+                        int other = (int) packed & 4095;
+                        packed >>= 12;
+                        if (needs[other] == NOT_KNOWN) {
+                            needs[other] = need + 1;
+                            found++;
+                        }
                     }
                 }
             }
-            return NONE;
+            return found;
         }
 
-        /** Each arrangement comes at most once for each number of OPS done. */
-        private void prepareWays(int size, int width) {
-            int most = ARRANGEMENTS * (size + 1);
-            if (ways == null || ways.length < most) {
-                int doubled = ways == null ? 0 : 2 * ways.length;
-                ways = new long[Math.min(Math.max(most, doubled), ARRANGEMENTS * (MOST_OPS + 1))];
-            }
-            if (furthest == null) {
-                furthest = new int[46656];
-            }
-            int keys = 1;
-            for (int i = 0; i < width; i++) {
-                keys *= 6;
-            }
-            for (int i = 0; i < keys && i < furthest.length; i++) {
-                furthest[i] = NONE;
+        private void keepLayer(int op, int count) {
+            for (int i = 0; i < LAYER; i++) {
+                long packed = 0;
+                for (int j = 0; j < 32 && 32 * i + j < count; j++) {
+                    int need = needs[32 * i + j];
+                    packed |= (long) (need == NOT_KNOWN ? NO_WAY : need % 3) << 2 * j;
+                }
+                layers[LAYER * op + i] = packed;
             }
         }
 
-        private static long packWay(int places, int done, int link, int before) {
-            return (long) places | (long) done << 18 | (long) link << 27 | (long) before << 31;
+        private int keptNeed(int op, int rank) {
+            return (int) (layers[LAYER * op + (rank >> 5)] >>> 2 * (rank & 31)) & 3;
         }
 
-        private int tracePath(int last, int link) {
-            int length = 0;
-            int at = last;
-            path[length] = link;
-            length++;
-            while (at != 0 && length < path.length) {
-                path[length] = (int) (ways[at] >> 27) & 15;
-                at = (int) (ways[at] >> 31);
-                length++;
+        /** Each SWAP goes over the first LINK behind which one less is needed. */
+        private void tracePath(Bank bank, int c, int swaps, int from) {
+            int width = bank.widths[c];
+            int places = placesAtFirst(width);
+            int done = from;
+            for (int i = 0; i < swaps && i < path.length && done < bank.sizes[c]; i++) {
+                int rank = rankOf(places, width);
+                int less = (keptNeed(done, rank) + 2) % 3;
+                int link = 0;
+                while (link < 14 && (!hasLink(link) || keptNeed(done, neighbourOf(rank, link)) != less)) {
+                    link++;
+                }
+                path[i] = link;
+                places = arrangements[neighbourOf(rank, link)];
+                done = advance(bank, c, places, done);
             }
-            if (at != 0) {
-                return NONE;
-            }
-            for (int i = 0; i < length / 2; i++) {
-                int kept = path[i];
-                path[i] = path[length - 1 - i];
-                path[length - 1 - i] = kept;
-            }
-            return length;
+        }
+
+        private boolean hasLink(int link) {
+            return (links >> link & 1) != 0;
+        }
+
+        private int neighbourOf(int rank, int link) {
+            return (int) (neighbours[3 * rank + link / 5] >> 12 * (link % 5)) & 4095;
         }
 
         private static int placesAtFirst(int width) {
@@ -3015,14 +3152,6 @@ public final class RootHouse {
 
         private static int placeOf(int places, int wire) {
             return places >> 3 * wire & 7;
-        }
-
-        private static int keyOf(int places, int width) {
-            int key = 0;
-            for (int i = 0; i < width; i++) {
-                key = 6 * key + placeOf(places, i);
-            }
-            return key;
         }
 
         private static int swapped(int places, int width, int a, int b) {
@@ -3120,9 +3249,9 @@ public final class RootHouse {
                 putGate(bank, path[i]);
                 rest = gated(rest, path[i]);
             }
-            for (int left = distances[slotOf(rest)] - 1; left > 0; left--) {
+            for (int left = nearness(rest) - 1; left > 0; left--) {
                 int gate = 0;
-                while (gate < 11 && distances[slotOf(gated(rest, gate))] != left) {
+                while (gate < 11 && nearness(gated(rest, gate)) != left) {
                     gate++;
                 }
                 putGate(bank, gate);
@@ -3136,7 +3265,7 @@ public final class RootHouse {
 
         private boolean tryGates(int rest, int left, int depth) {
             if (left == 0 || depth > NEAR) {
-                return distances[slotOf(rest)] != 0;
+                return nearness(rest) != 0;
             }
             for (int gate = 0; gate < 12; gate++) {
                 path[depth] = gate;
@@ -3147,62 +3276,79 @@ public final class RootHouse {
             return false;
         }
 
-        /** Distances are kept one greater, so that 0 tells a free slot. */
+        /** By distances: what is put in meanwhile is one further than what is gone through. */
         private void learn() {
-            if (slots != null) {
+            if (nearness(IDENTITY) != 0) {
                 return;
             }
-            slots = new int[SLOTS];
-            distances = new int[SLOTS];
-            permutations = new int[SLOTS / 2];
             remember(IDENTITY, 1);
-            for (int i = 0; i < known && i < SLOTS / 2; i++) {
-                int distance = distances[slotOf(permutations[i])];
-                for (int gate = 0; gate < 12 && distance <= NEAR; gate++) {
-                    remember(gated(permutations[i], gate), distance + 1);
+            for (int distance = 1; distance <= NEAR; distance++) {
+                for (int i = 0; i < SLOTS; i++) {
+                    for (int gate = 0; gate < 12 && slots[i] >> 24 == distance; gate++) {
+                        remember(gated(slots[i] & 0xFFFFFF, gate), distance + 1);
+                    }
                 }
             }
         }
 
         private void remember(int permutation, int distance) {
             int slot = slotOf(permutation);
-            if (distances[slot] == 0 && known < SLOTS / 2) {
-                slots[slot] = permutation;
-                distances[slot] = distance;
-                permutations[known] = permutation;
-                known++;
+            if (slots[slot] == 0) {
+                slots[slot] = permutation | distance << 24;
             }
         }
 
+        /** 1 more than the distance from the identity, if it is NEAR, else 0. */
+        private int nearness(int permutation) {
+            return slots[slotOf(permutation)] >> 24;
+        }
+
+        /** The slot of a permutation, or the free one where it would be. */
         private int slotOf(int permutation) {
             int slot = permutation * 0x9E3779B1 >>> 19;
-            for (int i = 0; i < SLOTS && distances[slot] != 0 && slots[slot] != permutation; i++) {
+            for (int i = 0; i < SLOTS && slots[slot] != 0 && (slots[slot] & 0xFFFFFF) != permutation; i++) {
                 slot = slot + 1 & SLOTS - 1;
             }
             return slot;
         }
 
-        /** How many KIN there are; they are in kin then. */
+        /** How many KIN there are; they are in seen then, a bit each. */
         int findKin(int n, int graph) {
-            if (kin == null) {
-                kin = new int[32768];
-                seen = new int[1024];
-            }
             Arrays.fill(seen, 0);
-            kin[0] = graph;
-            seen[graph >> 5] |= 1 << (graph & 31);
+            Arrays.fill(fresh, 0);
+            see(graph);
             int count = 1;
-            for (int i = 0; i < count && i < kin.length; i++) {
-                for (int point = 0; point < n; point++) {
-                    int other = complemented(n, kin[i], point);
-                    if ((seen[other >> 5] >>> (other & 31) & 1) == 0 && count < kin.length) {
-                        seen[other >> 5] |= 1 << (other & 31);
-                        kin[count] = other;
-                        count++;
-                    }
+            int found = 1;
+            while (found > 0 && count <= 64 * GRAPH_WORDS) {
+                found = 0;
+                for (int i = 0; i < GRAPH_WORDS; i++) {
+                    found += fresh[i] != 0 ? spreadKin(n, i) : 0;
                 }
+                count += found;
             }
             return count;
+        }
+
+        /** Goes through the fresh graphs of one word: how many others are found. */
+        private int spreadKin(int n, int word) {
+            int found = 0;
+            long left = fresh[word];
+            fresh[word] = 0;
+            for (int bit = 0; bit < 64 && left != 0; bit++) {
+                for (int point = 0; point < n && (left & 1) != 0; point++) {
+                    found += see(complemented(n, 64 * word + bit, point)) ? 1 : 0;
+                }
+                left >>>= 1;
+            }
+            return found;
+        }
+
+        private boolean see(int graph) {
+            long bit = 1L << (graph & 63);
+            boolean is = (seen[graph >> 6] & bit) == 0;
+            seen[graph >> 6] |= bit;
+            fresh[graph >> 6] |= is ? bit : 0;
+            return is;
         }
 
         private static int pairOf(int a, int b) {
@@ -3223,27 +3369,25 @@ public final class RootHouse {
             return other;
         }
 
-        int leastKin(int count) {
-            int least = kin[0];
-            for (int i = 1; i < count && i < kin.length; i++) {
-                least = Math.min(least, kin[i]);
+        int leastKin() {
+            int word = 0;
+            while (word < GRAPH_WORDS - 1 && seen[word] == 0) {
+                word++;
             }
-            return least;
+            return 64 * word + Long.bitCount((seen[word] & -seen[word]) - 1);
         }
 
-        int fewestPairs(int count) {
-            int fewest = Integer.bitCount(kin[0]);
-            for (int i = 1; i < count && i < kin.length; i++) {
-                fewest = Math.min(fewest, Integer.bitCount(kin[i]));
+        int fewestPairs() {
+            int fewest = 15;
+            for (int i = 0; i < GRAPH_WORDS; i++) {
+                for (int bit = 0; bit < 64 && seen[i] >>> bit != 0; bit++) {
+                    fewest = (seen[i] >>> bit & 1) != 0 ? Math.min(fewest, Integer.bitCount(64 * i + bit)) : fewest;
+                }
             }
             return fewest;
         }
 
         int leastCost(int n) {
-            if (subsetLegs == null) {
-                subsetLegs = new int[512];
-                subsetCosts = new int[512];
-            }
             for (int set = 1; set < 1 << n; set++) {
                 int first = Bank.lowest(set);
                 int rest = set & set - 1;
@@ -3255,7 +3399,7 @@ public final class RootHouse {
 
         /** One side has the first TENSOR, so each split comes once. */
         private int leastSplit(int set, int rest) {
-            int least = TOO_DEAR;
+            int least = NOT_KNOWN;
             for (int side = rest; side > 0; side = side - 1 & rest) {
                 int other = set ^ side;
                 int together = 1 << Integer.bitCount(subsetLegs[side] | subsetLegs[other]);
@@ -3265,7 +3409,7 @@ public final class RootHouse {
         }
     }
 
-    /** The SUMS A and B; what is worked out is gathered by PAULI before it is looked at. */
+    /** The SUMS A and B; what is worked out is found TERM by TERM, in their order, before A becomes it. */
     private static final class Sums {
         static final int A = 0;
         static final int B = 1;
@@ -3275,6 +3419,8 @@ public final class RootHouse {
         static final int MOST_HALVES = 60;
         /** Numbers moved up further than this are too great whatever they are. */
         static final int FURTHEST = 40;
+        /** Above all keys. */
+        static final int NO_KEY = 65536;
 
         final int[][] keys = new int[3][MOST_TERMS];
         final int[][] reals = new int[3][MOST_TERMS];
@@ -3284,9 +3430,13 @@ public final class RootHouse {
         final int[] foundKeys = new int[MOST_TERMS];
         final long[] foundReals = new long[MOST_TERMS];
         final long[] foundImaginaries = new long[MOST_TERMS];
-        long[] gatheredReals;
-        long[] gatheredImaginaries;
-        long[] touched;
+        /** Of a product: what those TERMS have that have the same x's, by their z's. */
+        final long[] gatheredReals = new long[256];
+        final long[] gatheredImaginaries = new long[256];
+        /** By x's: the first TERM of the second factor that has these or greater ones. */
+        final int[] firstOf = new int[257];
+        /** Those above MOST_TERMS are counted, but not kept. */
+        int found = 0;
 
         static boolean fits(long number) {
             return number >= -GREATEST && number <= GREATEST;
@@ -3369,9 +3519,7 @@ public final class RootHouse {
             if (isTooFar(A, most) || isTooFar(row, most)) {
                 return false;
             }
-            prepare();
-            gatherRow(A, most, 1);
-            gatherRow(row, most, sign);
+            merge(row, most, sign);
             return settle(most);
         }
 
@@ -3379,88 +3527,114 @@ public final class RootHouse {
             return sizes[row] > 0 && most - halves[row] > FURTHEST;
         }
 
-        private void gatherRow(int row, int most, int sign) {
-            int up = most - halves[row];
-            for (int i = 0; i < sizes[row]; i++) {
-                long p = (long) reals[row][i] << up;
-                long q = (long) imaginaries[row][i] << up;
-                gather(keys[row][i], sign * p, sign * q);
+        /** Both rows stand by their keys, so the lesser one of the next two comes next. */
+        private void merge(int row, int most, int sign) {
+            int i = 0;
+            int j = 0;
+            found = 0;
+            while (i < sizes[A] || j < sizes[row]) {
+                int one = i < sizes[A] ? keys[A][i] : NO_KEY;
+                int two = j < sizes[row] ? keys[row][j] : NO_KEY;
+                long p = 0;
+                long q = 0;
+                if (one <= two) {
+                    p = (long) reals[A][i] << most - halves[A];
+                    q = (long) imaginaries[A][i] << most - halves[A];
+                    i++;
+                }
+                if (two <= one) {
+                    p += sign * ((long) reals[row][j] << most - halves[row]);
+                    q += sign * ((long) imaginaries[row][j] << most - halves[row]);
+                    j++;
+                }
+                find(Math.min(one, two), p, q);
             }
         }
 
+        private void find(int key, long p, long q) {
+            if ((p | q) == 0) {
+                return;
+            }
+            if (found < MOST_TERMS) {
+                foundKeys[found] = key;
+                foundReals[found] = p;
+                foundImaginaries[found] = q;
+            }
+            found++;
+        }
+
+        /** By the x's of the product: so a row by z's alone is enough to gather in. */
         private boolean multiply(int left, int right) {
-            prepare();
-            for (int i = 0; i < sizes[left]; i++) {
-                for (int j = 0; j < sizes[right]; j++) {
-                    gatherProduct(left, i, right, j);
+            findFirsts(right);
+            found = 0;
+            for (int xs = 0; xs < 256 && found <= MOST_TERMS; xs++) {
+                boolean any = false;
+                for (int i = 0; i < sizes[left]; i++) {
+                    int other = keys[left][i] >> 8 ^ xs;
+                    for (int j = firstOf[other]; j < firstOf[other + 1]; j++) {
+                        gatherProduct(left, i, right, j);
+                        any = true;
+                    }
+                }
+                if (any) {
+                    takeGathered(xs);
                 }
             }
             return settle(halves[left] + halves[right]);
         }
 
+        private void findFirsts(int row) {
+            int at = 0;
+            for (int xs = 0; xs <= 256; xs++) {
+                while (at < sizes[row] && keys[row][at] >> 8 < xs) {
+                    at++;
+                }
+                firstOf[xs] = at;
+            }
+        }
+
         private void gatherProduct(int left, int i, int right, int j) {
             int one = keys[left][i];
             int two = keys[right][j];
+            int zs = (one ^ two) & 255;
             long p = (long) reals[left][i] * reals[right][j] - (long) imaginaries[left][i] * imaginaries[right][j];
             long q = (long) reals[left][i] * imaginaries[right][j] + (long) imaginaries[left][i] * reals[right][j];
             switch (Signs.quartersOfProduct(one >> 8, one & 255, two >> 8, two & 255)) {
-                case 0: gather(one ^ two, p, q); break;
-                case 1: gather(one ^ two, -q, p); break;
-                case 2: gather(one ^ two, -p, -q); break;
-                default: gather(one ^ two, q, -p); break;
+                case 0: gather(zs, p, q); break;
+                case 1: gather(zs, -q, p); break;
+                case 2: gather(zs, -p, -q); break;
+                default: gather(zs, q, -p); break;
             }
         }
 
-        private void prepare() {
-            if (touched == null) {
-                gatheredReals = new long[65536];
-                gatheredImaginaries = new long[65536];
-                touched = new long[1024];
+        private void gather(int zs, long p, long q) {
+            gatheredReals[zs] += p;
+            gatheredImaginaries[zs] += q;
+        }
+
+        /** Nothing stays gathered. */
+        private void takeGathered(int xs) {
+            for (int zs = 0; zs < 256; zs++) {
+                find(256 * xs + zs, gatheredReals[zs], gatheredImaginaries[zs]);
+                gatheredReals[zs] = 0;
+                gatheredImaginaries[zs] = 0;
             }
         }
 
-        private void gather(int key, long p, long q) {
-            touched[key >> 6] |= 1L << (key & 63);
-            gatheredReals[key] += p;
-            gatheredImaginaries[key] += q;
-        }
-
-        /** What was gathered becomes A, or is refused; nothing stays gathered. */
+        /** What was found becomes A, or is refused. */
         private boolean settle(int over) {
-            int count = 0;
-            for (int i = 0; i < touched.length; i++) {
-                for (int j = 0; j < 64 && touched[i] != 0; j++) {
-                    if ((touched[i] >>> j & 1) != 0) {
-                        count += takeGathered(64 * i + j, count) ? 1 : 0;
-                    }
-                }
-                touched[i] = 0;
-            }
-            if (count > MOST_TERMS) {
+            if (found > MOST_TERMS) {
                 return false;
             }
-            int left = count == 0 ? 0 : over;
-            while (left > 0 && allEven(count)) {
+            int left = found == 0 ? 0 : over;
+            while (left > 0 && allEven(found)) {
                 left--;
-                for (int i = 0; i < count; i++) {
+                for (int i = 0; i < found; i++) {
                     foundReals[i] >>= 1;
                     foundImaginaries[i] >>= 1;
                 }
             }
-            return left <= MOST_HALVES && allFit(count) && becomeA(count, left);
-        }
-
-        private boolean takeGathered(int key, int at) {
-            long p = gatheredReals[key];
-            long q = gatheredImaginaries[key];
-            gatheredReals[key] = 0;
-            gatheredImaginaries[key] = 0;
-            if (at < MOST_TERMS) {
-                foundKeys[at] = key;
-                foundReals[at] = p;
-                foundImaginaries[at] = q;
-            }
-            return (p | q) != 0;
+            return left <= MOST_HALVES && allFit(found) && becomeA(found, left);
         }
 
         private boolean allEven(int count) {

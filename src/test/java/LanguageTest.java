@@ -90,7 +90,14 @@ public final class LanguageTest {
                 CHECK.yes("line " + (i + 1) + " calls " + matcher.group(), known);
             }
             CHECK.no("line " + (i + 1) + " throws otherwise", code.contains("throw ") && !code.startsWith("throw new "));
+            CHECK.yes("line " + (i + 1) + " makes nothing in a call", !code.contains("new ") || isMadeWithTheHouse(code));
         }
+    }
+
+    /** Fields and the two constructors that are told how many: all of these run but once, ahead of any call. */
+    private static boolean isMadeWithTheHouse(String code) {
+        return code.startsWith("throw new ") || code.matches("(private )?final \\S+ \\w+ = new [^;]*;")
+            || code.matches("\\w+ = new (int|long)\\[(4 \\* )?most\\];");
     }
 
     private static void lengths(List<String> lines) {
