@@ -2918,8 +2918,9 @@ public final class RootHouse {
         static final int[] CONTROLS = {0, 2, 4, 6, 0, 1, 4, 5, 0, 1, 2, 3};
         static final int EVERY_THIRD = 0x249249;
         static final int IDENTITY = 0xFAC688;
-        static final int NEAR = 4;
-        static final int SLOTS = 8192;
+        static final int NEAR = 3;
+        static final int MOST_AHEAD = 5;
+        static final int SLOTS = 2048;
         static final int GRAPH_WORDS = 512;
 
         final int[] legs = new int[9];
@@ -3241,7 +3242,7 @@ public final class RootHouse {
         void putLeast(Bank bank, int inverse) {
             learn();
             int ahead = 0;
-            while (ahead <= NEAR && !tryGates(inverse, ahead, 0)) {
+            while (ahead <= MOST_AHEAD && !tryGates(inverse, ahead, 0)) {
                 ahead++;
             }
             int rest = inverse;
@@ -3264,16 +3265,26 @@ public final class RootHouse {
         }
 
         private boolean tryGates(int rest, int left, int depth) {
-            if (left == 0 || depth > NEAR) {
+            if (left == 0 || depth >= MOST_AHEAD) {
                 return nearness(rest) != 0;
             }
             for (int gate = 0; gate < 12; gate++) {
                 path[depth] = gate;
-                if (tryGates(gated(rest, gate), left - 1, depth + 1)) {
+                if (comesInOrder(depth) && tryGates(gated(rest, gate), left - 1, depth + 1)) {
                     return true;
                 }
             }
             return false;
+        }
+
+        /** Two gates that commute come first in order the other way round, and two of the same are none. */
+        private boolean comesInOrder(int depth) {
+            if (depth == 0 || path[depth] > path[depth - 1]) {
+                return true;
+            }
+            int one = path[depth - 1];
+            int two = path[depth];
+            return (CONTROLS[one] >> (two >> 2) & 1) != 0 || (CONTROLS[two] >> (one >> 2) & 1) != 0;
         }
 
         /** By distances: what is put in meanwhile is one further than what is gone through. */
@@ -3305,7 +3316,7 @@ public final class RootHouse {
 
         /** The slot of a permutation, or the free one where it would be. */
         private int slotOf(int permutation) {
-            int slot = permutation * 0x9E3779B1 >>> 19;
+            int slot = permutation * 0x9E3779B1 >>> 21;
             for (int i = 0; i < SLOTS && slots[slot] != 0 && (slots[slot] & 0xFFFFFF) != permutation; i++) {
                 slot = slot + 1 & SLOTS - 1;
             }

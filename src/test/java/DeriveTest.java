@@ -99,6 +99,9 @@ public final class DeriveTest {
         derived("2:0>x1;", 6, null, "2:h1;0>z1;h1;");
         derived("2:1>z0;", 6, null, "2:0>z1;");
         derived("2:-s0;h1;h1;", 6, null, "2:s0;s0;s0;");
+        furthest("h0;h1;s0;h0;s0;s0;s1;s1;0>z1;h0;h1;0>z1;h0;s0;");
+        furthest("h0;h1;s0;h0;0>z1;h0;h1;s0;h0;0>z1;h1;0>z1;h0;0>z1;");
+        furthest("h0;s0;h0;0>z1;h0;h1;s0;h0;0>z1;h0;h1;s0;h0;0>z1;");
         Random random = new Random(6);
         String[] gates = {"h0;", "h1;", "s0;", "-s1;", "x0;", "y1;", "z0;", "w01;", "0>x1;", "1>y0;", "0>z1;", "1>x0;"};
         for (int i = 0; i < 40; i++) {
@@ -115,6 +118,18 @@ public final class DeriveTest {
             int e = h.derive(1, c, h.derive(0, d, 0));
             CHECK.same("with its inverse it is nothing", h.look(h.derive(6, e, 0), 1), 0);
         }
+    }
+
+    /** Of the 27 that need 14 OPS: it is its own SHORTEST, and in front of others, too, on an object that knows more. */
+    private static void furthest(String ops) {
+        derived("2:" + ops, 6, null, "2:" + ops);
+        derived("2:x0;x0;" + ops + "w01;w10;", 6, null, "2:" + ops);
+        RootHouse h = new RootHouse();
+        int near = Check.circuit(h, "2:s1;");
+        int far = Check.circuit(h, "2:" + ops);
+        CHECK.same("a near one first", Check.written(h, h.derive(6, near, 0)), "2:s1;");
+        CHECK.same("then a far one", Check.written(h, h.derive(6, far, 0)), "2:" + ops);
+        CHECK.same("then the near one", Check.written(h, h.derive(6, near, 0)), "2:s1;");
     }
 
     private static void equal(String one, String two, int due, int same) {

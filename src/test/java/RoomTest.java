@@ -36,7 +36,7 @@ public final class RoomTest {
         Map<Object, Boolean> parts = new IdentityHashMap<>();
         long elements = visit(prepared(), parts);
         CHECK.yes("a house has few objects: " + parts.size(), parts.size() < 120);
-        CHECK.yes("and few elements: " + elements, elements < 40000);
+        CHECK.yes("and few elements: " + elements, elements < 34000);
         // A first round is for what the machine itself makes when a class or a call is new to it.
         madeByCalls(prepared());
         long[] made = madeByCalls(prepared());

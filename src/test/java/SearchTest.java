@@ -194,6 +194,23 @@ public final class SearchTest {
             Check.circuit(over, "1:");
         }
         CHECK.same("there are 20", over.route(1), -1);
+        longRoutes();
+    }
+
+    /** 198 OPS of two WIRES need 98 SWAPS on a row of three: with four OPS more it has just 300. */
+    private static void longRoutes() {
+        String text = "3:*7[*9[0>x1;1>x2;0>x2;]]*3[0>x1;1>x2;0>x2;]x0;x0;x0;x0;";
+        RootHouse h = chip(0, 1, 1, 2);
+        CHECK.same("300 with its SWAPS", h.route(Check.circuit(h, text)), 1);
+        CHECK.same("OPS", h.look(1, 1), 300);
+        CHECK.same("SWAPS", h.total(5), 98);
+        CHECK.same("301 with its SWAPS", h.route(Check.circuit(h, text + "x0;")), -1);
+        CHECK.same("SWAPS as before", h.total(5), 98);
+        CHECK.same("a short one behind a long one", h.route(Check.circuit(h, "3:0>x2;")), 4);
+        CHECK.same("its own", Check.written(h, 4), "6:w01;1>x2;");
+        CHECK.same("other LINKS", h.link(0, 1, false) && h.link(0, 2, true) ? 1 : 0, 1);
+        CHECK.same("for the same WIRES", h.route(Check.circuit(h, "3:0>x1;")), 6);
+        CHECK.same("by them", Check.written(h, 6), "6:w02;2>x1;");
     }
 
     private static void games() {

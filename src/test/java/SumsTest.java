@@ -148,6 +148,27 @@ public final class SumsTest {
         CHECK.same("256 are too many", f.ladder(7, true), -1);
         CHECK.same("seven halves", f.told(0, 4), 7);
         numbersOverTwo();
+        manyThatCancel();
+    }
+
+    /** (1 + z) P times (1 - z) Q is nothing, though thousands of PAULIS come up on the way. */
+    private static void manyThatCancel() {
+        RootHouse h = new RootHouse();
+        for (int sign = -1; sign <= 1; sign += 2) {
+            h.sum(2);
+            for (int i = 0; i < 70; i++) {
+                int xs = 2 * (i * (sign + 7) % 128);
+                h.term(xs, 2 * i, 1, 0);
+                CHECK.same("in pairs", h.term(xs, 2 * i + 1, sign, 0), 2 * i + 2);
+            }
+        }
+        CHECK.same("all of it cancels", h.sum(5), 0);
+        CHECK.same("B stays", h.total(7), 140);
+        h.sum(0);
+        CHECK.same("nothing is left of it", h.sum(5), 140);
+        for (int i = 0; i < 140; i++) {
+            CHECK.same("a number of it", Math.abs(h.told(i, 2)), 1);
+        }
     }
 
     /** What is over 1 comes to what is over 2 as twice as much. */
