@@ -2915,6 +2915,8 @@ public final class RootHouse {
         static final int LAYER = 23;
         static final int NO_WAY = 3;
         static final int NOT_KNOWN = 1 << 30;
+        /** Far above what is looked at: with more SWAPS than MOST_OPS there is no WAY. */
+        static final int MOST_NEED = 1000;
         static final int[] CONTROLS = {0, 2, 4, 6, 0, 1, 4, 5, 0, 1, 2, 3};
         static final int EVERY_THIRD = 0x249249;
         static final int IDENTITY = 0xFAC688;
@@ -3018,8 +3020,10 @@ public final class RootHouse {
             long packed = 0;
             for (int i = 0; i < 5; i++) {
                 int link = from + i;
-                boolean is = (links >> link & 1) != 0;
-                int to = is ? rankOf(swapped(arrangements[rank], width, LOW_END[link], HIGH_END[link]), width) : rank;
+                int to = rank;
+                if (hasLink(link)) {
+                    to = rankOf(swapped(arrangements[rank], width, LOW_END[link], HIGH_END[link]), width);
+                }
                 packed |= (long) to << 12 * i;
             }
             return packed;
@@ -3072,7 +3076,7 @@ public final class RootHouse {
                     most = Math.max(most, needs[rank]);
                 }
             }
-            for (int need = least; need <= most && unknown > 0; need++) {
+            for (int need = least; need <= most && need < MOST_NEED && unknown > 0; need++) {
                 int found = spreadNeed(need, count);
                 unknown -= found;
                 most = found > 0 ? Math.max(most, need + 1) : most;
