@@ -27,23 +27,34 @@ public final class AnyCallTest {
         Random random = new Random(7);
         for (int round = 0; round < 400; round++) {
             RootHouse house = new RootHouse();
-            for (int i = 0; i < 500; i++) {
+            int made = 0;
+            while (made < 500) {
                 if (random.nextInt(6) == 0) {
-                    typeSome(house, TEXTS[random.nextInt(TEXTS.length)]);
+                    made += typeSome(house, TEXTS[random.nextInt(TEXTS.length)]);
                 }
                 int pick = random.nextInt(calls.size() + 6);
                 String common = pick % 2 == 0 ? "circuit" : pick % 3 == 0 ? "code" : "run";
                 Method method = pick < calls.size() ? calls.get(pick) : find(calls, common);
                 call(house, method, random);
+                made++;
             }
         }
         CHECK.end();
     }
 
-    private static void typeSome(RootHouse house, String text) {
-        for (char c : text.toCharArray()) {
-            house.type(c, 1);
+    /** The TAPE may be full: then nothing more goes to it. How many calls that takes. */
+    private static int typeSome(RootHouse house, String text) {
+        int calls = 0;
+        for (int i = 0; i < text.length(); i += 8) {
+            String piece = text.substring(i, Math.min(text.length(), i + 8));
+            long word = 0;
+            for (char c : piece.toCharArray()) {
+                word = word << 8 | c;
+            }
+            house.type(word, piece.length());
+            calls++;
         }
+        return calls;
     }
 
     private static Method find(List<Method> calls, String name) {

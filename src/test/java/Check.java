@@ -51,6 +51,32 @@ final class Check {
         }
     }
 
+    /** Whether a call says no to just those of these values that are not from .. to. */
+    void only(String what, java.util.function.IntToLongFunction call, int from, int to) {
+        int[] values = {Integer.MIN_VALUE, -1000, from - 2, from - 1, from, from + 1, to - 1, to, to + 1, to + 2,
+            1000 + to, Integer.MAX_VALUE};
+        for (int value : values) {
+            boolean is = value >= from && value <= to;
+            String said = said(() -> call.applyAsLong(value));
+            boolean no = said.equals("-1") || said.equals("NoSuchElementException");
+            same(what + " of " + value + " said " + said + ", which is a yes", no ? 0 : 1, is ? 1 : 0);
+        }
+    }
+
+    /** The answer, or the name of the exception in its place. */
+    static String said(LongSupplier call) {
+        try {
+            return Long.toString(call.getAsLong());
+        } catch (RuntimeException e) {
+            return e.getClass().getSimpleName();
+        }
+    }
+
+    /** For answers that are true or false: a no is NONE. */
+    static long yesOrNone(boolean is) {
+        return is ? 1 : RootHouse.NONE;
+    }
+
     void end() {
         System.out.println(about + ": " + asked + " answers, " + wrong + " wrong");
         if (wrong != 0) {
@@ -71,6 +97,17 @@ final class Check {
         }
     }
 
+    /** Reads a TEXT: its number, or the name of the exception, with the FAULT behind it. */
+    static String read(RootHouse house, String text) {
+        type(house, text);
+        return said(house::circuit) + " " + house.fault(0) + " " + house.fault(1);
+    }
+
+    /** Reads a TEXT into a new house. */
+    static String read(String text) {
+        return read(new RootHouse(), text);
+    }
+
     static int circuit(RootHouse house, String text) {
         type(house, text);
         return house.circuit();
@@ -78,8 +115,10 @@ final class Check {
 
     static String written(RootHouse house, int c) {
         StringBuilder text = new StringBuilder();
-        for (int k = 0; house.written(c, k) != RootHouse.NONE; k++) {
-            text.append((char) house.written(c, k));
+        int next = house.written(c, 0);
+        while (next != RootHouse.NONE) {
+            text.append((char) next);
+            next = house.written(c, text.length());
         }
         return text.toString();
     }

@@ -181,7 +181,10 @@ public final class SearchTest {
         route(new RootHouse(), "2:0>x1;", 0, null);
         route(chip(0, 2, 1, 2), "3:0>-t1;", 1, "6:w02;2>-t1;");
         route(chip(0, 3, 1, 3), "2:0>x1;x0;", 1, "6:w03;3>x1;x3;");
-        route(line, "1:*9[*9[x0;x0;x0;]]*9[*6[x0;]]*3[x0;]", 0, "6:" + "x0;".repeat(300));
+        RootHouse most = chip(0, 1);
+        Check.circuit(most, "1:*9[*9[x0;x0;x0;]]*9[*6[x0;]]*3[x0;]");
+        CHECK.same("300 OPS", most.route(0), 1);
+        CHECK.row("as they were", what -> most.look(1, what), 0, 6, 300, 0, 902);
         RootHouse full = chip(0, 1);
         Check.circuit(full, "3:*9[*9[x0;x0;x0;]]*9[*6[x0;]]x0;x0;0>x1;");
         CHECK.same("just 300", full.route(0), 1);
