@@ -23,12 +23,15 @@ public final class BoundsCircuitTest {
         tooManyHs();
         mergedOps();
         mergedNothing();
+        mergedExchanged();
+        mergedAnew();
         cancelledOps();
         shortestOps();
         equalCan();
         equalStays();
         sameTold();
         turnCan();
+        turnOfAllWires();
         turnTooLong();
         CHECK.end();
     }
@@ -377,8 +380,37 @@ public final class BoundsCircuitTest {
             derived(4, "1:x0;" + "t0;".repeat(e) + "x0;", "1:x0;" + due[e % 8] + "x0;");
             derived(4, "1:-t0;x0;" + "-t0;".repeat(e), "1:" + (e == 0 ? "-t0;x0;" : due[(e + 7) % 8] + "x0;"));
         }
+        String all = "8:0>x1;1>x2;2>x3;3>x4;4>x5;5>x6;6>x7;";
+        derived(4, all + "t7;x0;t7;x7;-t7;", all + "s7;t7;x0;x7;");
         derived(4, "8:t0;t1;t2;t3;t4;t5;t6;t7;", "8:t0;t1;t2;t3;t4;t5;t6;t7;");
         derived(4, "2:z0;t0;0>x1;t1;0>x1;t1;", "2:z0;t0;0>x1;t1;0>x1;t1;");
+    }
+
+    /** "w: both change places": PARITY, and TURNED or not */
+    private static void mergedExchanged() {
+        derived(4, "2:t0;x0;w01;t1;", "2:x0;w01;");
+        derived(4, "2:t1;x0;w01;t0;", "2:s1;x0;w01;");
+        derived(4, "2:t0;x1;w01;t1;", "2:s0;x1;w01;");
+        derived(4, "2:t1;x1;w01;t0;", "2:x1;w01;");
+        derived(4, "2:t0;t1;x0;x1;w01;t0;t1;", "2:x0;x1;w01;");
+        derived(4, "2:t0;t1;w01;t0;t1;", "2:s0;s1;w01;");
+        derived(4, "3:t2;x2;w12;w01;t0;", "3:x2;w12;w01;");
+        derived(4, "3:t1;x2;w12;w01;t2;", "3:s1;x2;w12;w01;");
+        derived(4, "3:t0;x2;w12;w01;t1;", "3:s0;x2;w12;w01;");
+        derived(4, "3:t0;x2;w20;t2;", "3:s0;x2;w20;");
+        derived(4, "3:t2;x2;w20;t0;", "3:x2;w20;");
+        derived(4, "3:t0;x1;1>x0;t0;1>x0;t0;", "3:s0;x1;1>x0;t0;1>x0;");
+        derived(4, "3:x1;1>x0;t0;x0;t0;", "3:x1;1>x0;x0;");
+    }
+
+    /** One that is refused leaves nothing behind. */
+    private static void mergedAnew() {
+        RootHouse h = house("2:t0;t1;0>x1;t1;h0;", "2:t0;0>x1;t1;");
+        CHECK.same("refused", h.derive(4, 0, 0), -1);
+        CHECK.same("another one", h.derive(4, 1, 0), 2);
+        CHECK.same("as it is", Check.written(h, 2), "2:t0;0>x1;t1;");
+        CHECK.same("again", h.derive(4, 1, 0), 3);
+        CHECK.same("as it is", Check.written(h, 3), "2:t0;0>x1;t1;");
     }
 
     /** CANCELLED: "if 1, 2, 4, 6, 7, OP i becomes ..., and j goes", "0, both go"; with 3 and 5 both stay */
@@ -496,6 +528,12 @@ public final class BoundsCircuitTest {
         }
         equal("1:x0;", "1:", -1);
         equal("1:h0;", "1:", -1);
+        equal("3:1>2>h0;", "3:", -7);
+        equal("3:1>2>h0;", "3:1>2>x0;1>2>h0;", -7);
+        equal("3:1>2>h0;1>2>h0;", "3:", 0);
+        equal("4:1>2>3>h0;", "4:1>2>3>h0;3>z2;3>z2;", 0);
+        equal("4:1>2>3>h0;", "4:1>2>3>h0;1>2>3>z0;", -15);
+        equal("5:h0;h1;h2;h3;h4;", "5:h4;h3;h2;h1;h0;", 0);
         equal("5:0>1>2>3>x4;", "5:", -16);
     }
 
@@ -532,6 +570,33 @@ public final class BoundsCircuitTest {
             g.turn(0, 0, 1, e);
             CHECK.same("eighths", Check.written(g, 1), "1:" + eighths[e]);
         }
+    }
+
+    /** Of 8 WIRES: "from the least WIRE of P to the next one and so on" */
+    private static void turnOfAllWires() {
+        RootHouse h = house("8:");
+        CHECK.same("y of all", h.turn(0, 255, 255, 3), 1);
+        StringBuilder text = new StringBuilder("8:");
+        for (int i = 0; i < 8; i++) {
+            text.append("-s" + i + ";h" + i + ";");
+        }
+        for (int i = 0; i < 7; i++) {
+            text.append(i + ">x" + (i + 1) + ";");
+        }
+        text.append("s7;t7;");
+        for (int i = 6; i >= 0; i--) {
+            text.append(i + ">x" + (i + 1) + ";");
+        }
+        for (int i = 0; i < 8; i++) {
+            text.append("h" + i + ";s" + i + ";");
+        }
+        CHECK.same("y of all", Check.written(h, 1), text.toString());
+        RootHouse g = house("8:x3;");
+        CHECK.same("of the first and the last", g.turn(0, 128, 1, 1), 1);
+        CHECK.same("of the first and the last", Check.written(g, 1), "8:x3;h7;0>x7;t7;0>x7;h7;");
+        RootHouse f = house("8:");
+        CHECK.same("of the last", f.turn(0, 128, 128, 6), 1);
+        CHECK.same("of the last", Check.written(f, 1), "8:-s7;h7;-s7;h7;s7;");
     }
 
     /** "there are 20, or it would have too many OPS or of kind 3" */

@@ -21,6 +21,8 @@ public final class BoundsDensityTest {
         purities();
         powersUpTo50();
         purityIsExact();
+        purityOfTheLast();
+        resetRoots();
         withoutADensity();
         CHECK.end();
     }
@@ -100,6 +102,44 @@ public final class BoundsDensityTest {
         RootHouse h = house(3, 0, "3:x0;y0;z0;h0;s0;t0;-s0;-t0;w01;m03;r0;1>2>h0;2>w01;");
         for (int i = 0; i < 13; i++) {
             CHECK.yes("OP " + i, h.mix(0, i));
+        }
+    }
+
+    /** r: "D(i, j) for i, j with 0 at this WIRE gets D(i', j') too": all of it */
+    private static void resetRoots() {
+        for (int e = 0; e < 8; e++) {
+            for (int start = 0; start < 2; start++) {
+                RootHouse h = house(2, start, "2:h1;t1;r0;");
+                h.mix(0, 0);
+                for (int i = 0; i < e; i++) {
+                    h.mix(0, 1);
+                }
+                h.mix(0, 2);
+                long[] due = new long[5];
+                due[e % 4] = e < 4 ? 1 : -1;
+                due[4] = 2;
+                entry(h, 2, 0, due);
+                entry(h, 3, 1, 0, 0, 0, 0, 0);
+                entry(h, 0, 0, 1, 0, 0, 0, 2);
+                CHECK.row("PURITY", h::purity, 0, 1, 0, 0);
+            }
+        }
+        RootHouse g = house(2, 0, "2:h0;h1;t1;0>t1;r0;");
+        for (int i = 0; i < 5; i++) {
+            g.mix(0, i);
+        }
+        entry(g, 2, 0, 0, 1, 1, 0, 4);
+        entry(g, 0, 2, 0, 0, -1, -1, 4);
+    }
+
+    /** Of the last STARTS of three WIRES, too */
+    private static void purityOfTheLast() {
+        for (int start = 0; start < 8; start++) {
+            RootHouse h = house(3, start, "3:1>2>h0;0>1>h2;0>2>h1;");
+            for (int i = 0; i < 3; i++) {
+                h.mix(0, i);
+                CHECK.row("PURITY", h::purity, 0, 1, 0, 0);
+            }
         }
     }
 

@@ -9,6 +9,7 @@ public final class BoundsDiagramTest {
         opsThatCanBe();
         noSuchCircuit();
         theOldOneStays();
+        drawnAnew();
         asksOfSpiders();
         goneSpiders();
         rulesOneToFour();
@@ -26,8 +27,11 @@ public final class BoundsDiagramTest {
         pivotsNoEnds();
         secondCountsFor1And4();
         phasesModulo8();
+        bothKindsComeTogether();
+        reducesByTheFirstRule();
         reducesNothing();
         meaningsOfStarts();
+        meaningsOneByOne();
         meaningsOf12();
         meaningsOverOne();
         withoutADiagram();
@@ -78,6 +82,12 @@ public final class BoundsDiagramTest {
         }
         RootHouse h = drawn("2:" + many(60, "h0;") + many(200, "w01;") + "t0;");
         CHECK.same("h and w put none", h.total(3), 5);
+        for (String ahead : new String[] {"h0;", "h0;h0;h0;", "w01;", "w01;h1;"}) {
+            RootHouse f = drawn("2:" + ahead + many(56, "t0;"));
+            CHECK.same(ahead + "puts none", f.total(3), 60);
+            RootHouse e = drawn("2:" + ahead + many(57, "t0;"));
+            CHECK.same(ahead + "takes none away", e.total(3), 0);
+        }
         RootHouse g = drawn("1:" + many(58, "t0;"));
         CHECK.row("the last ones", i -> g.spider(i, 0), 57, 1, 1, 1, -1, -1);
         CHECK.same("the OUTPUT's EDGE", g.spider(1, 159), 1);
@@ -125,6 +135,31 @@ public final class BoundsDiagramTest {
         CHECK.same("in its place", h.diagram(5), 4);
         CHECK.row("in its place", i -> h.spider(i, 1), 0, 1, 1, 1, 1, -1);
         CHECK.row("in its place", part -> h.meaning(3, 3, part), 0, 1, 0, 0, 0, 0);
+    }
+
+    /** Nothing of the old one is left in the new one. */
+    private static void drawnAnew() {
+        String[] texts = {"2:t0;h0;s0;h1;t1;0>z1;h1;", "1:t0;s0;", "1:h0;", "1:t0;", "4:h0;h1;h2;h3;", "4:x0;x1;x2;x3;y0;y1;", "1:"};
+        for (int first = 0; first < texts.length; first++) {
+            for (int second = 0; second < texts.length; second++) {
+                RootHouse g = new RootHouse();
+                Check.circuit(g, texts[first]);
+                Check.circuit(g, texts[second]);
+                g.diagram(0);
+                g.reduce();
+                g.diagram(1);
+                RootHouse fresh = drawn(texts[second]);
+                String what = texts[second] + " behind " + texts[first];
+                CHECK.same(what, g.total(3), fresh.total(3));
+                for (int i = 0; i < 18; i++) {
+                    CHECK.same(what + " PHASE", g.spider(i, 0), fresh.spider(i, 0));
+                    CHECK.same(what + " EDGES", g.spider(i, 1), fresh.spider(i, 1));
+                    for (int j = i + 1; j < 18; j += 1 + j % 2) {
+                        CHECK.same(what + " EDGE", g.spider(i, 100 + j), fresh.spider(i, 100 + j));
+                    }
+                }
+            }
+        }
     }
 
     /** spider: "NONE if there is none such ..., or for another what (j 0 .. 59; 0 for itself and those that are not there)" */
@@ -444,6 +479,50 @@ public final class BoundsDiagramTest {
         }
     }
 
+    /** "PLAIN and TURNED: PLAIN, and the PHASE of the one with the lesser number grows by 4" */
+    private static void bothKindsComeTogether() {
+        RootHouse h = drawn("2:t1;h1;0>z1;t0;0>z1;s1;h1;t1;");
+        CHECK.yes("WIRE 1", h.rewrite(1, 6, 9));
+        CHECK.yes("WIRE 1", h.rewrite(1, 6, 10));
+        CHECK.same("PLAIN", h.spider(5, 107), 1);
+        CHECK.same("PLAIN", h.spider(7, 108), 1);
+        CHECK.yes("6 goes", h.rewrite(3, 6, 0));
+        CHECK.same("TURNED", h.spider(5, 108), 2);
+        CHECK.row("PHASES", i -> h.spider(i, 0), 4, 7, 6, -1, 1, 6, -1, -1, 7);
+        CHECK.yes("7 goes to 5", h.rewrite(1, 5, 7));
+        CHECK.same("PLAIN", h.spider(5, 108), 1);
+        CHECK.row("PHASES", i -> h.spider(i, 0), 4, 7, 6 + 1 + 4 & 7, -1, -1, 6);
+        RootHouse g = drawn("2:t1;h1;0>z1;h0;z0;z0;h0;0>z1;s1;h1;t1;");
+        CHECK.yes("WIRE 1", g.rewrite(1, 6, 10));
+        CHECK.yes("WIRE 1", g.rewrite(1, 6, 11));
+        CHECK.yes("PHASE 0", g.rewrite(1, 7, 8));
+        CHECK.yes("6 goes", g.rewrite(3, 6, 0));
+        CHECK.same("TURNED", g.spider(5, 109), 2);
+        CHECK.yes("7 goes", g.rewrite(2, 7, 0));
+        CHECK.same("PLAIN", g.spider(9, 105), 1);
+        CHECK.row("PHASES", i -> g.spider(i, 0), 4, 7, 6 + 4 & 7, -1, -1, -1, 6);
+        CHECK.yes("9 goes to 5", g.rewrite(1, 5, 9));
+        CHECK.row("TURNED and TURNED: none", what -> g.spider(5, what), 100, 1, 0, 1, 0, 0, 0, 0);
+        CHECK.same("TURNED and TURNED: none", g.spider(5, 112), 0);
+        CHECK.same("its PHASE", g.spider(5, 0), 0);
+    }
+
+    /** "again and again the first of these that can be done is: RULE 1 (of the least a, then the least b), 2 (least a), 3, 4 likewise" */
+    private static void reducesByTheFirstRule() {
+        RootHouse four = drawn("1:t0;h0;z0;h0;z0;h0;t0;");
+        CHECK.same("RULE 4 once", four.reduce(), 1);
+        CHECK.row("PHASES", i -> four.spider(i, 0), 2, 5, -1, -1, 5);
+        RootHouse least = drawn("3:t0;t1;t2;h0;h1;h2;0>z1;0>z2;1>z2;h0;h1;h2;t0;t1;t2;");
+        CHECK.same("RULE 1 three times, then 4 once", least.reduce(), 4);
+        CHECK.row("9 and 10 are gone", i -> least.spider(i, 0), 6, 1, 1, 1, -1, -1, -1, 4, -1, -1, 1, 1, 1);
+        RootHouse three = drawn("3:t0;t1;t2;h0;h1;h2;0>z1;0>z2;1>z2;s2;s1;h0;h1;h2;t0;t1;t2;");
+        CHECK.yes("RULE 3, too", three.reduce() > 5);
+        CHECK.same("10 is the least that it can be done with", three.spider(10, 0), -1);
+        RootHouse two = drawn("1:t0;h0;z0;z0;h0;t0;");
+        CHECK.same("RULE 1, 2, 1", two.reduce(), 3);
+        CHECK.row("one is left", i -> two.spider(i, 0), 2, 2, -1, -1, -1);
+    }
+
     /** "how many RULES were done" */
     private static void reducesNothing() {
         for (String text : new String[] {"1:", "4:", "1:t0;", "1:h0;t0;h0;", "2:0>z1;", "1:h0;s0;h0;"}) {
@@ -468,6 +547,33 @@ public final class BoundsDiagramTest {
             CHECK.row("the last ones", part -> h.meaning(last, last, part), 0, 1, 0, 0, 0, 0);
             CHECK.row("others", part -> h.meaning(last, 0, part), 0, 0, 0, 0, 0, 0);
         }
+    }
+
+    /** Each question has its own answer, whatever was asked ahead of it. */
+    private static void meaningsOneByOne() {
+        RootHouse h = drawn("4:");
+        for (int i = 0; i < 16; i++) {
+            for (int j = 0; j < 16; j++) {
+                CHECK.same("1 or 0", h.meaning(i, j, 0), i == j ? 1 : 0);
+            }
+        }
+        RootHouse g = drawn("4:");
+        CHECK.same("1", g.meaning(8, 8, 0), 1);
+        CHECK.same("0", g.meaning(0, 9, 0), 0);
+        RootHouse f = drawn("1:t0;t0;");
+        CHECK.row("i", part -> f.meaning(1, 1, part), 0, 0, 0, 1, 0, 0);
+        f.rewrite(1, 2, 3);
+        CHECK.row("i", part -> f.meaning(1, 1, part), 0, 0, 0, 1, 0, 0);
+        f.diagram(Check.circuit(f, "1:t0;"));
+        CHECK.row("w of another DIAGRAM", part -> f.meaning(1, 1, part), 0, 0, 1, 0, 0, 0);
+        RootHouse e = drawn("1:x0;");
+        CHECK.row("2", part -> e.meaning(0, 1, part), 0, 2, 0, 0, 0, 0);
+        Check.circuit(e, "1:x0;z0;z0;");
+        e.diagram(1);
+        CHECK.row("2", part -> e.meaning(0, 1, part), 0, 2, 0, 0, 0, 0);
+        e.rewrite(1, 3, 4);
+        e.rewrite(2, 3, 0);
+        CHECK.row("2", part -> e.meaning(0, 1, part), 0, 2, 0, 0, 0, 0);
     }
 
     /** "IllegalStateException: more than 12 SPIDERS but INPUTS and OUTPUTS are there" */

@@ -175,6 +175,13 @@ public final class BoundsRunTest {
         CHECK.row("one tape bit", h::state, 2, 1, 1, 1, 1, 0, 1);
         RootHouse g = run("1:h0;t0;h0;m00;m01;", 0, 0);
         CHECK.row("WEIGHTS that differ are above 0 both", g::state, 2, 1, 0, 0);
+        for (int e = 0; e < 8; e++) {
+            RootHouse d = run("1:h0;" + "t0;".repeat(e) + "m00;", 0, 0);
+            CHECK.row("all of the other ROOT is 0", part -> d.amplitude(1, part), 0, 0, 0, 0, 0, 0);
+            CHECK.same("one START", d.state(7), 1);
+            RootHouse c = run("2:h0;" + "t0;".repeat(e) + "0>x1;r1;", 0, 0);
+            CHECK.same("one START", c.state(7), 1);
+        }
         RootHouse f = run("1:h0;z0;h0;m00;", 0, 0);
         CHECK.row("a WEIGHT that came to 0", f::state, 2, 0, 1);
         CHECK.row("k comes down", part -> f.amplitude(1, part), 0, 1, 0, 0, 0, 0);
@@ -236,6 +243,13 @@ public final class BoundsRunTest {
             RootHouse h = run("2:h0;0>x1;r0;", 0, bit);
             CHECK.row("a tape bit, no BIT", h::state, 2, 1, 0, 0, 0, 0, 1);
             CHECK.row("the other WIRE", part -> h.amplitude(2 * bit, part), 0, 1, 0, 0, 0, 1);
+        }
+        for (int wire = 0; wire < 8; wire++) {
+            for (int start : new int[] {0, 255, 1 << wire, 255 - (1 << wire)}) {
+                RootHouse f = run("8:r" + wire + ";", start, -1);
+                CHECK.same("WIRE " + wire + " of " + start, f.amplitude(start & ~(1 << wire), 0), 1);
+                CHECK.same("one START", f.state(7), 1);
+            }
         }
         RootHouse g = run("1:x0;r0;r0;", 0, -1);
         CHECK.row("no tape bit", g::state, 2, 0, 0, 0, 0, 0, 1);
@@ -312,6 +326,17 @@ public final class BoundsRunTest {
                 CHECK.same("one START", h.nodes(level), 1);
             }
         }
+        for (int e = 0; e < 8; e++) {
+            RootHouse f = run("2:h0;0>h1;" + "0>t1;".repeat(e), 0, 0);
+            CHECK.row("by " + e + " eighths", f::nodes, 0, 1, 2, 1);
+            RootHouse d = run("2:h0;h1;" + "0>t1;".repeat(e), 0, 0);
+            CHECK.row("by " + e + " eighths", d::nodes, 0, 1, e == 0 ? 1 : 2, 1);
+            // Of the four STARTS of WIRES 0 and 1 the last one is taken away by m.
+            RootHouse b = run("3:h0;h1;0>1>x2;m20;" + "t1;".repeat(e), 0, 0);
+            CHECK.row("three STARTS, by " + e + " eighths", b::nodes, 0, 1, 2, 1, 1);
+            RootHouse c = run("2:h0;h1;" + "t0;".repeat(e), 0, 0);
+            CHECK.row("by a factor alone", c::nodes, 0, 1, 1, 1);
+        }
         RootHouse g = run("8:h0;h1;h2;h3;0>x4;1>x5;2>x6;3>x7;", 0, 0);
         CHECK.row("the most that there can be", g::nodes, -1, -1, 1, 2, 4, 8, 16, 8, 4, 2, 1, -1);
     }
@@ -333,6 +358,11 @@ public final class BoundsRunTest {
         RootHouse g = run("1:h0;t0;", 0, 0);
         CHECK.same("none", g.group(-1, 0), 0);
         CHECK.row("no ROW", what -> g.group(0, what), 0, -1, -1, -1);
+        RootHouse e = run("3:h0;h1;0>x2;1>x2;", 0, 0);
+        CHECK.row("the others have 0 there: x's", i -> e.group(i, 0), 0, 5, 6, 0);
+        CHECK.row("the others have 0 there: z's", i -> e.group(i, 1), 0, 0, 0, 7);
+        RootHouse d = run("4:h0;h1;h2;0>x3;1>x3;2>x3;", 0, 0);
+        CHECK.row("the others have 0 there: x's", i -> d.group(i, 0), -1, 4, 9, 10, 12, 0, -1);
         RootHouse f = run("8:h0;t0;h7;s7;", 0, 0);
         CHECK.same("seven", f.group(-1, 5), 7);
         CHECK.row("y of the last one", what -> f.group(0, what), 0, 128, 128, 0);

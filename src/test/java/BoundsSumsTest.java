@@ -24,11 +24,110 @@ public final class BoundsSumsTest {
         changedPlaces();
         toldTerms();
         commuting();
+        greatestSets();
+        shorterOnes();
+        all150();
         CHECK.end();
     }
 
     private static void told(RootHouse h, int i, long... due) {
         CHECK.row("TERM " + i, what -> h.told(i, what), 0, due);
+    }
+
+    /** The PAULI with all x's and z's is the last one of all. */
+    private static void greatestSets() {
+        RootHouse h = new RootHouse();
+        h.sum(0);
+        h.ladder(3, true);
+        h.sum(2);
+        h.term(255, 255, 5, 0);
+        CHECK.same("behind the others", h.sum(3), 3);
+        told(h, 2, 255, 255, 10, 0, 1);
+        CHECK.same("with one more", h.term(0, 0, 1, 0), 4);
+        told(h, 3, 255, 255, 10, 0, 1);
+        RootHouse g = new RootHouse();
+        g.term(255, 255, 2, 0);
+        g.sum(2);
+        g.term(255, 255, 3, 0);
+        CHECK.same("together", g.sum(3), 1);
+        told(g, 0, 255, 255, 5, 0, 0);
+        CHECK.same("its square", g.sum(5), 1);
+        told(g, 0, 0, 0, 10, 0, 0);
+        CHECK.same("times it", g.sum(5), 1);
+        told(g, 0, 255, 255, 20, 0, 0);
+        CHECK.same("it times that", g.sum(6), 1);
+        told(g, 0, 0, 0, 40, 0, 0);
+        RootHouse f = new RootHouse();
+        f.term(255, 0, 1, 0);
+        f.sum(2);
+        f.term(0, 0, 1, 0);
+        f.term(255, 0, 1, 0);
+        f.term(1, 0, 1, 0);
+        CHECK.same("times all x's", f.sum(5), 3);
+        told(f, 0, 0, 0, 1, 0, 0);
+        told(f, 1, 254, 0, 1, 0, 0);
+        told(f, 2, 255, 0, 1, 0, 0);
+        f.sum(2);
+        CHECK.same("all x's times that", f.sum(5), 3);
+        told(f, 1, 1, 0, 1, 0, 0);
+    }
+
+    /** What was there and is gone counts for nothing. */
+    private static void shorterOnes() {
+        RootHouse h = new RootHouse();
+        h.term(1, 0, 7, 7);
+        h.term(255, 255, 9, 9);
+        h.term(255, 255, -9, -9);
+        h.sum(2);
+        h.term(255, 255, 1, 0);
+        h.term(0, 0, 1, 0);
+        CHECK.same("three", h.sum(3), 3);
+        told(h, 2, 255, 255, 1, 0, 0);
+        CHECK.same("two", h.sum(4), 2);
+        told(h, 1, 255, 255, 1, 0, 0);
+        CHECK.same("no x's and z's together", h.sum(5), 2);
+        RootHouse g = new RootHouse();
+        g.term(1, 0, 1, 0);
+        g.term(2, 0, 1, 0);
+        g.term(2, 0, -1, 0);
+        g.sum(2);
+        g.term(0, 2, 1, 0);
+        g.term(0, 3, 1, 0);
+        g.term(0, 3, -1, 0);
+        CHECK.yes("those that are there commute", g.commutes());
+        g.sum(2);
+        CHECK.yes("those that are there commute", g.commutes());
+    }
+
+    /** All 150 of both count. */
+    private static void all150() {
+        RootHouse h = new RootHouse();
+        for (int i = 0; i < 149; i++) {
+            h.term(0, i, 1, 1);
+        }
+        h.term(128, 0, 1, 1);
+        h.sum(2);
+        for (int i = 0; i < 149; i++) {
+            h.term(0, 2 * (i % 64), 1 + i, -1);
+        }
+        CHECK.yes("z's below the last", h.commutes() == (h.total(6) <= 64));
+        CHECK.same("64", h.total(6), 64);
+        h.term(0, 255, 1, 0);
+        CHECK.no("the last one of A, the last one of B", h.commutes());
+        h.sum(2);
+        CHECK.no("the last one of A, the last one of B", h.commutes());
+        CHECK.same("150", h.sum(7), 150);
+        told(h, 0, 0, 0, 1, -1, 0);
+        told(h, 149, 128, 0, 1, -1, 0);
+        h.sum(2);
+        h.sum(1);
+        CHECK.yes("none", h.commutes());
+        CHECK.same("150 come", h.sum(3), 150);
+        CHECK.same("150 with 150", h.sum(3), 150);
+        told(h, 149, 128, 0, 2, -2, 0);
+        CHECK.same("as great as they are", h.sum(4), 150);
+        h.sum(2);
+        CHECK.no("x and z", h.commutes());
     }
 
     /** A row of different TERMS, the first one of number from. */

@@ -48,6 +48,12 @@ public final class BoundsTextTest {
         due(text, BROKEN + place);
     }
 
+    private static void layout(String text, String due) {
+        RootHouse h = new RootHouse();
+        CHECK.same(text, Check.read(h, text), "0 0 0");
+        CHECK.same(text, Check.written(h, 0), due);
+    }
+
     private static void wrong(String text, int kind, int place) {
         due(text, "IllegalArgumentException " + kind + " " + place);
     }
@@ -253,6 +259,9 @@ public final class BoundsTextTest {
                 }
             }
         }
+        layout("8:@a4[3>x0;2>y1;w23;0>1>2>t3;]@a7654;", "8:4>x7;5>y6;w54;5>6>7>t4;");
+        layout("8:@a4[3>x0;2>y1;w23;]1>-@a0736;", "8:1>w36;1>3>y7;1>6>x0;");
+        layout("8:@a1[t0;]@b2[-@a1;0>@a1;]@c4[@b30;]@c0174;", "8:-t0;4>t0;");
         wrong("8:@a2[]@b1[@a01;]", 2, 14);
         wrong("1:@a2[]@b4[@a23;]@b0123;", 2, 20);
     }
@@ -495,6 +504,14 @@ public final class BoundsTextTest {
         wrong(tooLong + "x1;", 2, tooLong.length() + 1);
         wrong(tooLong + "0>x0;", 3, tooLong.length() + 3);
         wrong(tooLong + "@a0;", 4, tooLong.length());
+        String tooLongUse = "1:@a1[" + many(301, "x0;") + "]@a0;";
+        wrong(tooLongUse, 5, 0);
+        broken(tooLongUse + "q", tooLongUse.length());
+        wrong(tooLongUse + "x1;", 2, tooLongUse.length() + 1);
+        wrong(tooLongUse + "@b0;", 4, tooLongUse.length());
+        String tooLongTurn = "1:*9[*9[*9[x0;]]]";
+        broken(tooLongTurn + "q", tooLongTurn.length());
+        wrong(tooLongTurn + "@b0;", 4, tooLongTurn.length());
         String tooManyHs = "1:" + many(61, "h0;");
         wrong(tooManyHs + "x1;", 2, tooManyHs.length() + 1);
     }
