@@ -5,6 +5,7 @@ public final class BoundsCircuitTest {
 
     public static void main(String[] args) {
         twentyCircuits();
+        twentyOf300();
         theTapeIsEmptyInAnyCase();
         whichFaultIsTold();
         cleared();
@@ -72,6 +73,34 @@ public final class BoundsCircuitTest {
         CHECK.same("none behind it", h.look(20, 0), -1);
         h.clear();
         CHECK.same("from 0 on", Check.circuit(h, "8:"), 0);
+    }
+
+    /** As many OPS as there can be: each circuit keeps its own. */
+    private static void twentyOf300() {
+        RootHouse h = new RootHouse();
+        String fifth = "*9[*6[x0;]]*4[x0;]x0;";
+        for (int i = 0; i < 20; i++) {
+            String first = i % 2 == 0 ? "h0;" : "s0;";
+            String last = i % 3 == 0 ? "h0;" : "t0;";
+            CHECK.same("number", Check.circuit(h, "1:" + first + "*5[" + fifth + "]x0;x0;x0;" + last), i);
+        }
+        for (int i = 0; i < 20; i++) {
+            CHECK.same("OPS", h.look(i, 1), 300);
+            CHECK.same("of kind 3", h.look(i, 2), (i % 2 == 0 ? 1 : 0) + (i % 3 == 0 ? 1 : 0));
+            CHECK.same("the first one", h.op(i, 0, 0), i % 2 == 0 ? 3 : 4);
+            CHECK.same("the second one", h.op(i, 1, 0), 0);
+            CHECK.same("the last but one", h.op(i, 298, 0), 0);
+            CHECK.same("the last one", h.op(i, 299, 0), i % 3 == 0 ? 3 : 5);
+            CHECK.same("none behind it", h.op(i, 300, 0), -1);
+        }
+        h.clear();
+        Check.circuit(h, "1:" + many(60, "h0;"));
+        h.clear();
+        Check.circuit(h, "1:x0;");
+        Check.circuit(h, "1:h0;x0;h0;");
+        CHECK.same("none of the old ones", h.look(0, 2), 0);
+        CHECK.same("two", h.look(1, 2), 2);
+        CHECK.same("none of the old ones", h.op(0, 1, 0), -1);
     }
 
     /** "it is empty then in any case, also with the first exception" */
@@ -401,6 +430,9 @@ public final class BoundsCircuitTest {
         derived(4, "3:t2;x2;w20;t0;", "3:x2;w20;");
         derived(4, "3:t0;x1;1>x0;t0;1>x0;t0;", "3:s0;x1;1>x0;t0;1>x0;");
         derived(4, "3:x1;1>x0;t0;x0;t0;", "3:x1;1>x0;x0;");
+        derived(4, "4:x1;t3;0>x2;t3;", "4:x1;s3;0>x2;");
+        derived(4, "4:x0;t2;0>x1;t2;t1;0>x1;t1;", "4:x0;s2;0>x1;t1;0>x1;t1;");
+        derived(4, "4:x0;t1;0>x1;0>x1;t1;", "4:x0;s1;0>x1;0>x1;");
     }
 
     /** One that is refused leaves nothing behind. */
@@ -548,7 +580,7 @@ public final class BoundsCircuitTest {
                 CHECK.same("WIRES", h.look(1, 0), n);
             }
             int[][] cannot = {{0, 0}, {all + 1, 0}, {0, all + 1}, {all + 2, 1}, {1, all + 2}, {-1, 0}, {0, -1},
-                {Integer.MIN_VALUE, 1}, {1, Integer.MIN_VALUE}, {256, 0}, {0, 256}};
+                {Integer.MIN_VALUE, 1}, {1, Integer.MIN_VALUE}, {256, 0}, {0, 256}, {all + 1, all + 1}, {all + 2, all + 2}, {-1, -1}};
             RootHouse h = house(n + ":");
             for (int[] sets : cannot) {
                 CHECK.same("no PAULI of " + n, h.turn(0, sets[0], sets[1], 1), -1);

@@ -151,6 +151,12 @@ public final class BoundsRunTest {
         CHECK.same("all STARTS", g.state(7), 256);
         RootHouse f = run("8:h0;h0;", 255, 0);
         CHECK.same("one START", f.state(7), 1);
+        for (int e = 0; e < 8; e++) {
+            RootHouse d = run("1:h0;t0;h0;x0;" + "t0;".repeat(e), 0, 0);
+            CHECK.same("two STARTS, one of them (1 + w) * w^" + e, d.state(7), 2);
+            RootHouse c = run("1:h0;t0;h0;x0;" + "t0;".repeat(e) + "m00;", 0, 1);
+            CHECK.row("it can be measured", c::state, 2, 1, 1);
+        }
     }
 
     /** "BITS (0 at first)" */
@@ -541,6 +547,10 @@ public final class BoundsRunTest {
             CHECK.same("x's", h.faulty(0, 0, all, 0, 0), all);
             CHECK.same("z's", h.faulty(0, 0, 0, all, 1), all);
             CHECK.same("none is one, too", h.faulty(0, 0, 0, 0, 0), 0);
+            CHECK.row("both", what -> h.faulty(0, 0, all, all, what), 0, all, all, 0);
+            for (int set : new int[] {all + 1, all + 2, -1, Integer.MIN_VALUE, 256}) {
+                CHECK.same("no such PAULI", h.faulty(0, 0, set, set, 0), -1);
+            }
         }
     }
 
@@ -564,6 +574,10 @@ public final class BoundsRunTest {
         RootHouse h = new RootHouse();
         Check.circuit(h, "1:m00;x0;m01;m02;m03;h0;m01;");
         CHECK.row("BITS", i -> h.faulty(0, i, 1, 0, 2), 0, 13, 12, 12, 12, 8, 0, 2, 0);
+        RootHouse g = new RootHouse();
+        Check.circuit(g, "2:m00;m00;m00;m10;m00;");
+        CHECK.row("another one is another one, however often", i -> g.faulty(0, i, 1, 0, 2), 0, 1, 1, 1, 1, 1, 0);
+        CHECK.row("the latest m tells", i -> g.faulty(0, i, 2, 0, 2), 0, 0, 0, 0, 0, 0, 0);
         Check.circuit(h, "1:r0;m00;");
         CHECK.row("r takes both", what -> h.faulty(1, 0, 1, 1, what), 0, 0, 0, 0);
         CHECK.row("m takes z", what -> h.faulty(1, 1, 1, 1, what), 0, 1, 0, 1);

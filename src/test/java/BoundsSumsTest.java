@@ -383,6 +383,11 @@ public final class BoundsSumsTest {
             CHECK.same("up and down again", h.ladder(j, false), 128);
         }
         CHECK.row("k", what -> h.told(0, what), 2, Math.abs(h.told(0, 2)), 0, 7);
+        RootHouse e = new RootHouse();
+        e.term(0, 0, 1, 1);
+        CHECK.same("odd numbers all", e.ladder(0, false), 2);
+        told(e, 0, 1, 0, 1, 1, 1);
+        told(e, 1, 1, 1, -1, 1, 1);
         RootHouse g = new RootHouse();
         g.term(3, 0, 4, 0);
         g.sum(2);

@@ -472,6 +472,16 @@ public final class BoundsTextTest {
         due("1:@a1[*9[*9[*9[*9[*9[*9[*9[x0;]]]]]]]]@a0;", "IllegalArgumentException 5 0");
         due("1:@a1[*9[*9[*9[*9[*9[*9[*9[x0;]]]]]]]]", "0 0 0");
         due("1:*9[*9[*9[x0;]]]*9[]", "IllegalArgumentException 5 0");
+        for (char name = 'a'; name <= 'd'; name++) {
+            RootHouse g = new RootHouse();
+            CHECK.same("a ROUTINE of 300", Check.read(g, "1:@" + name + "1[s0;" + many(298, "x0;") + "y0;]@" + name + "0;"), "0 0 0");
+            CHECK.row("the first ones", i -> g.op(0, i, 0), -1, -1, 4, 0, 0);
+            CHECK.row("the last ones", i -> g.op(0, i, 0), 298, 0, 1, -1);
+            RootHouse f = new RootHouse();
+            CHECK.same("its inverse", Check.read(f, "1:@" + name + "1[s0;" + many(298, "x0;") + "y0;]-@" + name + "0;"), "0 0 0");
+            CHECK.row("the first ones", i -> f.op(0, i, 0), -1, -1, 1, 0, 0);
+            CHECK.row("the last ones", i -> f.op(0, i, 0), 298, 0, 6, -1);
+        }
         RootHouse h = new RootHouse();
         Check.circuit(h, "1:" + many(299, "x0;") + "y0;");
         CHECK.same("OPS", h.look(0, 1), 300);
