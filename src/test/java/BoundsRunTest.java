@@ -337,6 +337,8 @@ public final class BoundsRunTest {
             CHECK.row("by " + e + " eighths", f::nodes, 0, 1, 2, 1);
             RootHouse d = run("2:h0;h1;" + "0>t1;".repeat(e), 0, 0);
             CHECK.row("by " + e + " eighths", d::nodes, 0, 1, e == 0 ? 1 : 2, 1);
+            RootHouse a = run("2:h0;x0;0>h1;0>t1;0>h1;0>x1;x0;" + "t1;".repeat(e), 0, 0);
+            CHECK.row("by (1 + w) * w^" + e, a::nodes, 0, 1, 2, 1);
             // Of the four STARTS of WIRES 0 and 1 the last one is taken away by m.
             RootHouse b = run("3:h0;h1;0>1>x2;m20;" + "t1;".repeat(e), 0, 0);
             CHECK.row("three STARTS, by " + e + " eighths", b::nodes, 0, 1, 2, 1, 1);
@@ -575,9 +577,9 @@ public final class BoundsRunTest {
         Check.circuit(h, "1:m00;x0;m01;m02;m03;h0;m01;");
         CHECK.row("BITS", i -> h.faulty(0, i, 1, 0, 2), 0, 13, 12, 12, 12, 8, 0, 2, 0);
         RootHouse g = new RootHouse();
-        Check.circuit(g, "2:m00;m00;m00;m10;m00;");
-        CHECK.row("another one is another one, however often", i -> g.faulty(0, i, 1, 0, 2), 0, 1, 1, 1, 1, 1, 0);
-        CHECK.row("the latest m tells", i -> g.faulty(0, i, 2, 0, 2), 0, 0, 0, 0, 0, 0, 0);
+        Check.circuit(g, "2:m10;m00;m00;m00;");
+        CHECK.row("another one is another one, however often", i -> g.faulty(0, i, 1, 0, 2), 0, 1, 1, 1, 1, 0);
+        CHECK.row("the latest m tells", i -> g.faulty(0, i, 2, 0, 2), 0, 0, 0, 0, 0, 0);
         Check.circuit(h, "1:r0;m00;");
         CHECK.row("r takes both", what -> h.faulty(1, 0, 1, 1, what), 0, 0, 0, 0);
         CHECK.row("m takes z", what -> h.faulty(1, 1, 1, 1, what), 0, 1, 0, 1);

@@ -8,7 +8,7 @@ import java.util.Random;
 import java.util.Set;
 import java.util.TreeSet;
 
-/** Promises 9 (SHORTEST), 35, 37, 38, 39, 52 and 54 by lot, next to models that look through all there is, in order. */
+/** Promises 9 (SHORTEST), 33, 34, 35, 37, 38, 39, 52 and 54 by lot, next to models that look through all there is, in order. */
 public final class SearchModelTest {
     private static final Check CHECK = new Check("searches by lot");
 
@@ -20,6 +20,7 @@ public final class SearchModelTest {
         kin(random);
         costs(random);
         shortest(random);
+        forms(random);
         CHECK.end();
     }
 
@@ -321,6 +322,52 @@ public final class SearchModelTest {
             int d = Check.circuit(h, i % 2 == 0 ? "2:y1;x0;" : "2:1>x0;w10;");
             int e = h.derive(1, d, c);
             CHECK.same(word, Check.written(h, h.derive(6, e, 0)), "2:" + word);
+        }
+    }
+
+    /** EQUAL, of the right form, and with one of the 24 rows behind its last t: there is just one such. */
+    private static void forms(Random random) {
+        List<String> words = new ArrayList<>();
+        List<int[]> images = new ArrayList<>();
+        Set<String> seen = new HashSet<>();
+        words.add("");
+        images.add(new int[] {1, 4});
+        seen.add("[1, 4]");
+        for (int at = 0; at < words.size(); at++) {
+            for (int letter = 0; letter < 2; letter++) {
+                // The first letter is done last, so what comes to the end of the row is done first.
+                String word = words.get(at) + "hs".charAt(letter);
+                int[] next = {1, 4};
+                for (int i = word.length() - 1; i >= 0; i--) {
+                    for (int j = 0; j < 2; j++) {
+                        next[j] = turned(next[j], word.charAt(i) == 'h' ? 0 : 2);
+                    }
+                }
+                if (seen.add(java.util.Arrays.toString(next))) {
+                    words.add(word);
+                    images.add(next);
+                }
+            }
+        }
+        CHECK.same("matrices", words.size(), 24);
+        String[] gates = {"x0;", "y0;", "z0;", "h0;", "s0;", "t0;", "-s0;", "-t0;", "h0;", "t0;"};
+        for (int round = 0; round < 300; round++) {
+            StringBuilder text = new StringBuilder("1:");
+            for (int i = random.nextInt(30); i > 0; i--) {
+                text.append(gates[random.nextInt(gates.length)]);
+            }
+            RootHouse h = new RootHouse();
+            int c = Check.circuit(h, text.toString());
+            String form = Check.form(h, c);
+            CHECK.same(text + " t's", h.letter(-1), form.replaceAll("[hs]", "").length());
+            String last = form.substring(form.lastIndexOf('t') + 1);
+            CHECK.yes(form + " ends in one of the 24", words.contains(last));
+            CHECK.yes(form + " begins as it must", form.substring(0, form.length() - last.length()).matches("t?(ht|sht)*"));
+            StringBuilder back = new StringBuilder("1:");
+            for (int i = form.length() - 1; i >= 0; i--) {
+                back.append(form.charAt(i)).append("0;");
+            }
+            CHECK.same(text + " is " + form, h.equal(c, Check.circuit(h, back.toString())), 1);
         }
     }
 

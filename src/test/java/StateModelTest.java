@@ -6,12 +6,20 @@ public final class StateModelTest {
     private static final String[] LETTERS = {"x", "y", "z", "h", "s", "t", "-s", "-t", "w", "m", "r"};
     private static final double ROOT = Math.sqrt(2);
     private static final double NEAR = 1e-7;
+    /** How often u and v of a REAL were the same, and not 0. */
+    private static int alikeSeen = 0;
 
     public static void main(String[] args) {
         Random random = new Random(1016);
         for (int round = 0; round < 400; round++) {
             runs(random, 1 + round % 4, 1 + random.nextInt(16));
         }
+        for (int round = 0; round < 20; round++) {
+            // 2:h1;h0;0>h1;-t1;1>h0; and 2:h1;0>h1;1>h0;0>h1;t1;
+            run(random, 2, new int[][] {{3, 1, 0, 0, 0, 0}, {3, 0, 0, 0, 0, 0}, {3, 1, 0, 1, 0, 0}, {7, 1, 0, 0, 0, 0}, {3, 0, 0, 2, 0, 0}});
+            run(random, 2, new int[][] {{3, 1, 0, 0, 0, 0}, {3, 1, 0, 1, 0, 0}, {3, 0, 0, 2, 0, 0}, {3, 1, 0, 1, 0, 0}, {5, 1, 0, 0, 0, 0}});
+        }
+        CHECK.yes("u and v were the same " + alikeSeen + " times", alikeSeen > 5);
         for (int round = 0; round < 200; round++) {
             densities(random, 1 + round % 3, 1 + random.nextInt(14));
         }
@@ -81,14 +89,21 @@ public final class StateModelTest {
     }
 
     private static void runs(Random random, int wires, int count) {
+        int[][] ops = new int[count][];
+        for (int i = 0; i < count; i++) {
+            ops[i] = drawn(random, wires, true);
+        }
+        run(random, wires, ops);
+    }
+
+    private static void run(Random random, int wires, int[][] ops) {
         Model model = new Model(1 << wires);
         StringBuilder text = new StringBuilder(wires + ":");
         int start = random.nextInt(1 << wires);
         long tape = random.nextLong();
         model.re[start] = 1;
         model.tape = tape;
-        for (int i = 0; i < count; i++) {
-            int[] op = drawn(random, wires, true);
+        for (int[] op : ops) {
             text.append(spelled(op));
             if ((op[4] & ~model.bits) == 0 && (op[5] & model.bits) == 0) {
                 model.step(op, 0, false);
@@ -96,7 +111,7 @@ public final class StateModelTest {
         }
         RootHouse h = new RootHouse();
         CHECK.yes("it begins", h.begin(Check.circuit(h, text.toString()), start, tape));
-        CHECK.same(text + " OPS", h.run(400), count);
+        CHECK.same(text + " OPS", h.run(400), ops.length);
         CHECK.same(text + " tape bits", h.state(2), model.taken);
         for (int i = 0; i < 4; i++) {
             CHECK.same(text + " BIT " + i, h.state(3 + i), model.bits >> i & 1);
@@ -108,6 +123,12 @@ public final class StateModelTest {
             some += model.isZero(i) ? 0 : 1;
         }
         CHECK.same(text + " STARTS", h.state(7), some);
+        for (int i = 0; i < 16 && wires <= 2; i++) {
+            int xs = i & (1 << wires) - 1;
+            int zs = i >> 2 & (1 << wires) - 1;
+            real(text + " EXPECTED " + xs + " " + zs, part -> h.expected(xs, zs, part), model.expected(xs, zs));
+            alikeSeen += h.expected(xs, zs, 2) > 0 && h.expected(xs, zs, 0) == h.expected(xs, zs, 1) ? 1 : 0;
+        }
         for (int i = 0; i < 8; i++) {
             int set = random.nextInt(1 << wires);
             int values = random.nextInt(1 << wires) & set;
