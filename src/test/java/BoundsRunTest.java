@@ -10,6 +10,8 @@ public final class BoundsRunTest {
         oneTo400();
         noneOrAllDone();
         passedOver();
+        eachWhenItsTurnComes();
+        aNewObject();
         states();
         bitsAtFirst();
         onlyOutcome();
@@ -139,6 +141,29 @@ public final class BoundsRunTest {
         CHECK.same("m, x, and one that never can be", h.run(400), 3);
         CHECK.row("state", h::state, 1, 9, 0, 0, 1, 0, 0, 1);
         CHECK.same("x was done once", h.amplitude(0, 0), 1);
+    }
+
+    /** "what is in it is done only if the BIT is 1 (0): each OP, when its turn comes" */
+    private static void eachWhenItsTurnComes() {
+        RootHouse h = begun("1:x0;m00;?0[x0;m00;x0;m01;]", 0, 0);
+        CHECK.same("all of them", h.run(400), 6);
+        CHECK.row("BIT 0 is 0 behind the second m", h::state, 1, 6, 0, 0, 0);
+        CHECK.same("the last x is passed over", h.amplitude(0, 0), 1);
+        RootHouse g = begun("1:!0[x0;m00;x0;m01;]!1[x0;m01;x0;]", 0, 0);
+        CHECK.same("all of them", g.run(400), 7);
+        CHECK.row("BIT 0 is 1 behind the first m", g::state, 1, 7, 0, 1, 0);
+        CHECK.same("only the first and the last two x are done", g.amplitude(1, 0), 1);
+    }
+
+    /** "no RUN, a TABLE of one WIRE" */
+    private static void aNewObject() {
+        RootHouse h = new RootHouse();
+        CHECK.same("one WIRE", h.total(2), 1);
+        CHECK.only("ROW", i -> h.row(i, 1), 0, 0);
+        CHECK.only("WIRE", wire -> h.measure(wire, 1), 0, 0);
+        CHECK.only("WIRE", wire -> Check.yesOrNone(h.gate(3, wire, 0)), 0, 0);
+        CHECK.no("no second one", h.gate(5, 0, 1));
+        CHECK.same("no RUN", h.state(0), -1);
     }
 
     /** state: "NONE without a RUN, or for another what" */

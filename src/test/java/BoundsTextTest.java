@@ -33,6 +33,7 @@ public final class BoundsTextTest {
         at300Ops();
         at60Hs();
         tooLongIsToldLast();
+        all512Calls();
         CHECK.end();
     }
 
@@ -505,6 +506,25 @@ public final class BoundsTextTest {
         RootHouse h = new RootHouse();
         Check.circuit(h, "2:" + many(60, "h0;x1;"));
         CHECK.same("of kind 3", h.look(0, 2), 60);
+    }
+
+    /** "An object is used for at most 512 calls after it has been made": all of these are answered. */
+    private static void all512Calls() {
+        RootHouse h = new RootHouse();
+        int calls = 0;
+        while (calls < 510) {
+            CHECK.yes("a word", h.type(0x313A78303BL, 5));
+            CHECK.same("a circuit", h.circuit(), calls / 3 % 17);
+            calls += 2;
+            if (calls % 51 == 50) {
+                h.clear();
+            } else {
+                CHECK.same("circuits", h.total(0), calls / 3 % 17 + 1);
+            }
+            calls++;
+        }
+        CHECK.same("none is left of call 510", h.total(0), 0);
+        CHECK.no("the last one, which is refused", h.type(31, 1));
     }
 
     /** "if there is none, 5" */
