@@ -3246,7 +3246,7 @@ public final class RootHouse {
         void putLeast(Bank bank, int inverse) {
             learn();
             int ahead = 0;
-            while (ahead <= MOST_AHEAD && !tryGates(inverse, ahead, 0)) {
+            while (ahead <= MOST_AHEAD && !tryGates(this, inverse, ahead, 0)) {
                 ahead++;
             }
             int rest = inverse;
@@ -3268,13 +3268,14 @@ public final class RootHouse {
             bank.put(Bank.pack(X, gate >> 2, 0, CONTROLS[gate]));
         }
 
-        private boolean tryGates(int rest, int left, int depth) {
+        /** Static, as rule 8 of the language wants a method that calls itself. */
+        private static boolean tryGates(Search search, int rest, int left, int depth) {
             if (left == 0 || depth >= MOST_AHEAD) {
-                return nearness(rest) != 0;
+                return search.nearness(rest) != 0;
             }
             for (int gate = 0; gate < 12; gate++) {
-                path[depth] = gate;
-                if (comesInOrder(depth) && tryGates(gated(rest, gate), left - 1, depth + 1)) {
+                search.path[depth] = gate;
+                if (search.comesInOrder(depth) && tryGates(search, gated(rest, gate), left - 1, depth + 1)) {
                     return true;
                 }
             }
